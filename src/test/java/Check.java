@@ -7,11 +7,19 @@ final class Check {
     }
 
     static void due(String call, long want, long got) {
+        due(call, Long.toString(want), Long.toString(got));
+    }
+
+    static void due(String call, String want, String got) {
         asked++;
-        if (got != want) {
+        if (!got.equals(want)) {
             wrong++;
             System.out.println(call + " answered " + got + ", due is " + want);
         }
+    }
+
+    static int wrongSoFar() {
+        return wrong;
     }
 
     static void end(String test) {

@@ -3,6 +3,7 @@ public final class ConstructionTest {
     public static void main(String[] args) {
         seedIsClamped();
         capIsClamped();
+        capBoundsTheDraws();
         everythingIsEmpty();
         Check.end("ConstructionTest");
     }
@@ -43,26 +44,30 @@ public final class ConstructionTest {
             Check.due("cap " + cap + ": pushChoice", length, x.pushChoice(length));
         }
         Check.due("cap " + cap + ": pushChoice when full", -1, x.pushChoice(0));
-        Check.due("cap " + cap + ": stat(4)", room, x.stat(4));
+        x.discard();
+        for (int length = 1; length <= room; length++) {
+            Check.due("cap " + cap + ": pushChoice after discard", length, x.pushChoice(length));
+        }
+        Check.due("cap " + cap + ": pushChoice when full again", -1, x.pushChoice(0));
+    }
+
+    private static void capBoundsTheDraws() {
+        ChoiceShrink five = Make.tester(1, -9, Make.ints(5, 255), Make.NEVER);
+        Check.due("run with 5 ints and cap 4", 0, five.run(16));
+        ChoiceShrink four = Make.tester(1, -9, Make.ints(4, 255), Make.NEVER);
+        Check.due("run with 4 ints and cap 4", 1, four.run(16));
     }
 
     private static void everythingIsEmpty() {
         ChoiceShrink x = new ChoiceShrink(9, 9);
-        Check.due("phase()", ChoiceShrink.PH_IDLE, x.phase());
-        Check.due("seqLength()", 0, x.seqLength());
+        Check.due("all of a new object",
+            "phase 0 S [] O [] V [] stat [0, 0, 0, 0, 0, 0, 0, 9] cursor [0, 0, 0, 0, 0, 0]", State.of(x));
         Check.due("choiceAt(0)", -1, x.choiceAt(0));
-        Check.due("origLength()", 0, x.origLength());
         Check.due("origChoiceAt(0)", -1, x.origChoiceAt(0));
-        Check.due("valueLength()", 0, x.valueLength());
         Check.due("valueAt(0)", -1, x.valueAt(0));
-        for (int what = 0; what <= 6; what++) {
-            Check.due("stat(" + what + ")", 0, x.stat(what));
-        }
-        for (int what = 0; what <= 5; what++) {
-            Check.due("cursor(" + what + ")", 0, x.cursor(what));
-        }
-        Check.due("replay()", -1, x.replay());
-        Check.due("run(1)", -1, x.run(1));
+        Check.due("addOp", 0, x.addOp(ChoiceShrink.OP_PUSH, 0));
+        Check.due("replay() without a generator", -1, x.replay());
+        Check.due("run(1) without a generator", -1, x.run(1));
         Check.due("shrink(1)", -1, x.shrink(1));
     }
 }
