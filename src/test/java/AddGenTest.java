@@ -1,85 +1,107 @@
-/** Promise 2: addGen. */
+import java.util.function.Supplier;
+
+/** Promise 2: addGen, with the Terms of the generator. */
 public final class AddGenTest {
+    private static final int INT = ChoiceShrink.G_INT;
+    private static final int LIST = ChoiceShrink.G_LIST;
+    private static final int PAIR = ChoiceShrink.G_PAIR;
+
     public static void main(String[] args) {
-        answersTheIndex();
+        refusesOutsideIdle();
         refusesWrongKinds();
         refusesWrongBounds();
-        ignoresTheBoundOfListsAndPairs();
         refusesWhenComplete();
         refusesASeventeenthNode();
         takesASixteenthNodeThatCompletes();
+        ignoresTheBoundOfListsAndPairs();
+        appendsInPrefixOrder();
+        answersTheIndex();
         tellsWhenComplete();
-        refusesOutsideIdle();
         changesNothingElse();
         Check.end("AddGenTest");
     }
 
-    private static void answersTheIndex() {
-        ChoiceShrink x = new ChoiceShrink(1, 8);
-        Check.due("addGen pair", 0, x.addGen(ChoiceShrink.G_PAIR, 0));
-        Check.due("addGen list", 1, x.addGen(ChoiceShrink.G_LIST, 0));
-        Check.due("addGen int", 2, x.addGen(ChoiceShrink.G_INT, 3));
-        Check.due("addGen int", 3, x.addGen(ChoiceShrink.G_INT, 4));
-        Check.due("stat(2)", 4, x.stat(2));
+    private static void refusesOutsideIdle() {
+        Check.says("each refusing with -1 and no change at all: phase is not PH_IDLE");
+        Moment.found().values().forEach(AddGenTest::refusesEveryKind);
+        Moment.done().values().forEach(AddGenTest::refusesEveryKind);
+    }
+
+    private static void refusesEveryKind(Supplier<ChoiceShrink> made) {
+        for (int kind = INT; kind <= PAIR; kind++) {
+            refuses(made, kind, 5);
+        }
     }
 
     private static void refusesWrongKinds() {
-        for (int kind : new int[] {0, 4, 5, -1, -3, Integer.MIN_VALUE, Integer.MAX_VALUE}) {
-            refuses(new ChoiceShrink(1, 8), kind, 5);
+        Check.says("kind not in 1..3");
+        for (int kind : new int[] {Make.LEAST, -3, -1, 0, 4, 5, Make.GREATEST}) {
+            for (int bound : new int[] {Make.LEAST, -1, 0, 5, 255, 256, Make.GREATEST}) {
+                refuses(() -> new ChoiceShrink(1, 8), kind, bound);
+                refuses(() -> Make.tester(1, 8, new int[][] {{PAIR, 0}, {INT, 5}}, Make.NEVER), kind, bound);
+            }
+        }
+        for (int kind = 1; kind <= 3; kind++) {
+            Check.due("addGen(" + kind + ", 5)", 0, new ChoiceShrink(1, 8).addGen(kind, 5));
         }
     }
 
     private static void refusesWrongBounds() {
-        for (int bound : new int[] {-1, -255, 256, 257, Integer.MIN_VALUE, Integer.MAX_VALUE}) {
-            refuses(new ChoiceShrink(1, 8), ChoiceShrink.G_INT, bound);
+        Check.says("kind is G_INT and bound not in 0..255");
+        for (int bound : new int[] {Make.LEAST, -256, -255, -1, 256, 257, Make.GREATEST}) {
+            refuses(() -> new ChoiceShrink(1, 8), INT, bound);
+            refuses(() -> Make.tester(1, 8, new int[][] {{LIST, 0}}, Make.NEVER), INT, bound);
         }
         for (int bound : new int[] {0, 1, 128, 254, 255}) {
             ChoiceShrink x = new ChoiceShrink(1, 8);
-            Check.due("addGen int " + bound, 0, x.addGen(ChoiceShrink.G_INT, bound));
-        }
-    }
-
-    private static void ignoresTheBoundOfListsAndPairs() {
-        for (int bound : new int[] {-1, 0, 255, 256, Integer.MIN_VALUE, Integer.MAX_VALUE}) {
-            int[][] gen = {
-                {ChoiceShrink.G_PAIR, bound}, {ChoiceShrink.G_LIST, bound},
-                {ChoiceShrink.G_INT, 255}, {ChoiceShrink.G_INT, 255}};
-            ChoiceShrink x = Make.fed(8, gen, Make.NEVER, 200, 77, 0, 99);
-            Check.due("nodes with bound " + bound, 4, x.stat(2));
-            Check.due("replay with bound " + bound, ChoiceShrink.R_FAILS, x.replay());
-            Check.due("value with bound " + bound, "[1, 77, 99]", State.value(x).toString());
+            Check.due("addGen int " + bound, 0, x.addGen(INT, bound));
+            Check.due("stat(6) with int " + bound, 1, x.stat(6));
         }
     }
 
     private static void refusesWhenComplete() {
-        ChoiceShrink x = Make.tester(1, 8, Make.LIST_OF_INT, Make.NEVER);
-        refuses(x, ChoiceShrink.G_INT, 5);
-        refuses(x, ChoiceShrink.G_LIST, 5);
-        refuses(x, ChoiceShrink.G_PAIR, 5);
-        refuses(x, 0, 5);
+        Check.says("generator complete");
+        int[][][] complete = {
+            {{INT, 0}}, {{INT, 255}}, Make.LIST_OF_INT, Make.ints(2, 9), Make.ints(8, 9),
+            {{LIST, 0}, {PAIR, 0}, {INT, 1}, {LIST, 0}, {INT, 2}}};
+        for (int[][] gen : complete) {
+            for (int[][] program : new int[][][] {Make.NOTHING, Make.NEVER}) {
+                refusesEveryKind(() -> Make.tester(1, 8, gen, program));
+            }
+        }
+        // The last node that completes is still taken.
+        Check.due("addGen behind a list", 1, Make.tester(1, 8, new int[][] {{LIST, 0}}, Make.NEVER).addGen(INT, 0));
+        Check.due("addGen behind a pair and an int", 2,
+            Make.tester(1, 8, new int[][] {{PAIR, 0}, {INT, 5}}, Make.NEVER).addGen(INT, 0));
     }
 
     private static void refusesASeventeenthNode() {
-        ChoiceShrink x = new ChoiceShrink(1, 8);
-        for (int index = 0; index < 16; index++) {
-            Check.due("addGen pair", index, x.addGen(ChoiceShrink.G_PAIR, 0));
+        Check.says("16 nodes present");
+        for (int kind : new int[] {LIST, PAIR}) {
+            ChoiceShrink x = new ChoiceShrink(1, 8);
+            for (int index = 0; index < 16; index++) {
+                Check.due("addGen(" + kind + ", 0)", index, x.addGen(kind, 0));
+            }
+            Check.due("stat(2)", 16, x.stat(2));
+            Check.due("stat(6)", 0, x.stat(6));
+            refusesEveryKind(() -> Make.tester(1, 8, Make.repeated(16, kind, 0), Make.NEVER));
         }
-        refuses(x, ChoiceShrink.G_INT, 5);
-        refuses(x, ChoiceShrink.G_LIST, 5);
-        refuses(x, ChoiceShrink.G_PAIR, 5);
-        Check.due("stat(2)", 16, x.stat(2));
-        Check.due("stat(6)", 0, x.stat(6));
+        for (int kind = INT; kind <= PAIR; kind++) {
+            ChoiceShrink fifteen = Make.tester(1, 8, Make.repeated(15, PAIR, 0), Make.NEVER);
+            Check.due("a sixteenth of kind " + kind, 15, fifteen.addGen(kind, 5));
+        }
     }
 
     private static void takesASixteenthNodeThatCompletes() {
+        Check.says("A list of at most 16 nodes in prefix order.");
         ChoiceShrink x = new ChoiceShrink(1, 32);
         for (int index = 0; index < 15; index++) {
-            Check.due("addGen list", index, x.addGen(ChoiceShrink.G_LIST, 0));
+            Check.due("addGen list", index, x.addGen(LIST, 0));
             Check.due("stat(6)", 0, x.stat(6));
         }
-        Check.due("addGen int", 15, x.addGen(ChoiceShrink.G_INT, 9));
+        Check.due("addGen int", 15, x.addGen(INT, 9));
         Check.due("stat(6)", 1, x.stat(6));
-        refuses(x, ChoiceShrink.G_INT, 5);
+        Check.due("a seventeenth", -1, x.addGen(INT, 5));
         x.addOp(ChoiceShrink.OP_PUSH, 0);
         Make.feed(x, 1, 1, 1, 1, 1, 1, 1, 1, 1, 1, 1, 1, 1, 1, 1, 27, 0, 0, 0, 0, 0, 0, 0, 0, 0, 0, 0, 0, 0, 0, 0);
         Check.due("replay of fifteen nested lists", ChoiceShrink.R_FAILS, x.replay());
@@ -87,41 +109,78 @@ public final class AddGenTest {
             "[1, 1, 1, 1, 1, 1, 1, 1, 1, 1, 1, 1, 1, 1, 1, 7]", State.value(x).toString());
     }
 
-    private static void tellsWhenComplete() {
-        int[] kinds = {ChoiceShrink.G_PAIR, ChoiceShrink.G_PAIR, ChoiceShrink.G_INT, ChoiceShrink.G_LIST,
-            ChoiceShrink.G_INT, ChoiceShrink.G_LIST, ChoiceShrink.G_LIST, ChoiceShrink.G_INT};
+    private static void ignoresTheBoundOfListsAndPairs() {
+        Check.says("bound is ignored for G_LIST and G_PAIR.");
+        for (int bound : new int[] {Make.LEAST, -1, 0, 255, 256, Make.GREATEST}) {
+            int[][] gen = {{PAIR, bound}, {LIST, bound}, {INT, 255}, {INT, 255}};
+            ChoiceShrink x = Make.fed(8, gen, Make.NEVER, 200, 77, 0, 99);
+            Check.due("nodes with bound " + bound, 4, x.stat(2));
+            Check.due("replay with bound " + bound, ChoiceShrink.R_FAILS, x.replay());
+            Check.due("value with bound " + bound, "[1, 77, 99]", State.value(x).toString());
+            ChoiceShrink drawn = Make.tester(5, 32, gen, Make.NEVER);
+            ChoiceShrink plain = Make.tester(5, 32, new int[][] {{PAIR, 0}, {LIST, 0}, {INT, 255}, {INT, 255}},
+                Make.NEVER);
+            Check.due("run with bound " + bound, plain.run(1), drawn.run(1));
+            Check.due("all after run with bound " + bound, State.of(plain), State.of(drawn));
+        }
+    }
+
+    private static void appendsInPrefixOrder() {
+        Check.says("Otherwise the node is appended after all earlier nodes (prefix order)");
+        int[][] gen = {{PAIR, 0}, {PAIR, 0}, {INT, 9}, {INT, 99}, {PAIR, 0}, {INT, 199}, {INT, 255}};
+        ChoiceShrink x = Make.found(8, gen, Make.NEVER, 255, 255, 255, 255);
+        Check.due("V", "[5, 55, 55, 255]", State.value(x).toString());
+    }
+
+    private static void answersTheIndex() {
+        Check.says("the answer is the new node's index (0 for the first node, then 1, 2, ...)");
         ChoiceShrink x = new ChoiceShrink(1, 8);
+        Check.due("addGen pair", 0, x.addGen(PAIR, 0));
+        Check.due("addGen list", 1, x.addGen(LIST, 0));
+        Check.due("a refused one takes no index", -1, x.addGen(INT, 256));
+        Check.due("addGen int", 2, x.addGen(INT, 3));
+        Check.due("addGen int", 3, x.addGen(INT, 4));
+        Check.due("stat(2)", 4, x.stat(2));
+    }
+
+    private static void tellsWhenComplete() {
+        Check.says("The generator is COMPLETE when it has at least one node and open = 0.");
+        completesAt(new int[] {INT});
+        completesAt(new int[] {LIST, INT});
+        completesAt(new int[] {LIST, LIST, INT});
+        completesAt(new int[] {PAIR, INT, INT});
+        completesAt(new int[] {PAIR, LIST, INT, INT});
+        completesAt(new int[] {PAIR, PAIR, INT, LIST, INT, LIST, LIST, INT});
+        completesAt(new int[] {PAIR, PAIR, PAIR, PAIR, INT, INT, INT, INT, INT});
+        completesAt(new int[] {LIST, PAIR, LIST, INT, PAIR, INT, INT});
+    }
+
+    private static void completesAt(int[] kinds) {
+        ChoiceShrink x = new ChoiceShrink(1, 8);
+        x.addOp(ChoiceShrink.OP_PUSH, 1);
         for (int index = 0; index < kinds.length; index++) {
             Check.due("stat(6) before node " + index, 0, x.stat(6));
+            Check.due("replay() before node " + index, -1, x.replay());
+            Check.due("run(1) before node " + index, -1, x.run(1));
             Check.due("addGen", index, x.addGen(kinds[index], 5));
         }
         Check.due("stat(6)", 1, x.stat(6));
-    }
-
-    private static void refusesOutsideIdle() {
-        ChoiceShrink x = Make.fed(8, Make.LIST_OF_INT, Make.NEVER, 0);
-        x.replay();
-        Check.due("phase()", ChoiceShrink.PH_FOUND, x.phase());
-        refuses(x, ChoiceShrink.G_INT, 5);
-        refuses(x, ChoiceShrink.G_LIST, 5);
-        x.shrink(64);
-        Check.due("phase()", ChoiceShrink.PH_DONE, x.phase());
-        refuses(x, ChoiceShrink.G_INT, 5);
-        refuses(x, ChoiceShrink.G_PAIR, 5);
+        Check.due("run(1)", 0, x.run(1));
     }
 
     private static void changesNothingElse() {
+        Check.says("Nothing else changes.");
         ChoiceShrink x = new ChoiceShrink(5, 8);
         x.pushChoice(3);
-        x.addGen(ChoiceShrink.G_LIST, 0);
+        x.addGen(LIST, 0);
         Check.due("all after one node",
             "phase 0 S [] O [] V [] stat [0, 0, 1, 0, 1, 0, 0, 5] cursor [0, 0, 0, 0, 0, 0]", State.of(x));
+        x.addGen(INT, 255);
+        Check.due("all after two nodes",
+            "phase 0 S [] O [] V [] stat [0, 0, 2, 0, 1, 0, 1, 5] cursor [0, 0, 0, 0, 0, 0]", State.of(x));
     }
 
-    private static void refuses(ChoiceShrink x, int kind, int bound) {
-        String before = State.of(x);
-        String call = "addGen(" + kind + ", " + bound + ")";
-        Check.due(call, -1, x.addGen(kind, bound));
-        Check.due("all after " + call, before, State.of(x));
+    private static void refuses(Supplier<ChoiceShrink> made, int kind, int bound) {
+        Refused.due("addGen(" + kind + ", " + bound + ")", made, x -> x.addGen(kind, bound));
     }
 }

@@ -1,9 +1,20 @@
 /** Counts the answers that are not the ones due, and ends the test with exit code 1 if there was one. */
 final class Check {
+    private static String sentence = "";
+    private static int sentences = 0;
+    private static int askedOfSentence = 1;
     private static int asked = 0;
     private static int wrong = 0;
 
     private Check() {
+    }
+
+    /** The document's own words that the answers from here on are due to; told with each wrong answer. */
+    static void says(String words) {
+        endSentence();
+        sentence = words;
+        sentences++;
+        askedOfSentence = 0;
     }
 
     static void due(String call, long want, long got) {
@@ -12,9 +23,11 @@ final class Check {
 
     static void due(String call, String want, String got) {
         asked++;
+        askedOfSentence++;
         if (!got.equals(want)) {
             wrong++;
-            System.out.println(call + " answered " + got + ", due is " + want);
+            System.out.println(call + " answered " + got + ", due is " + want
+                + (sentence.isEmpty() ? "" : "\n    by: " + sentence));
         }
     }
 
@@ -23,10 +36,18 @@ final class Check {
     }
 
     static void end(String test) {
-        System.out.println(test + ": " + asked + " answers, " + wrong + " wrong");
+        endSentence();
+        System.out.println(test + ": " + sentences + " sentences, " + asked + " answers, " + wrong + " wrong");
         // A test that asked nothing has shown nothing.
         if (wrong != 0 || asked == 0) {
             System.exit(1);
+        }
+    }
+
+    private static void endSentence() {
+        if (askedOfSentence == 0) {
+            wrong++;
+            System.out.println("nothing was asked by: " + sentence);
         }
     }
 }

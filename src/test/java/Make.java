@@ -1,8 +1,14 @@
 import java.util.ArrayList;
+import java.util.Arrays;
 import java.util.List;
 
-/** Makes objects that are ready to be tested. */
+/** Makes objects that are ready to be tested, and the generators and properties that they are given. */
 final class Make {
+    static final int LEAST = Integer.MIN_VALUE;
+    static final int GREATEST = Integer.MAX_VALUE;
+
+    static final int[][] NOTHING = {};
+
     /** The property that always fails, and the one that always holds. */
     static final int[][] NEVER = {{ChoiceShrink.OP_PUSH, 0}};
     static final int[][] ALWAYS = {{ChoiceShrink.OP_PUSH, 1}};
@@ -30,6 +36,13 @@ final class Make {
         return x;
     }
 
+    /** Fed and replayed, and so found. */
+    static ChoiceShrink found(int cap, int[][] gen, int[][] program, int... choices) {
+        ChoiceShrink x = fed(cap, gen, program, choices);
+        Check.due("replay()", ChoiceShrink.R_FAILS, x.replay());
+        return x;
+    }
+
     static void feed(ChoiceShrink x, int... choices) {
         for (int c : choices) {
             x.pushChoice(c);
@@ -47,12 +60,45 @@ final class Make {
         return nodes.toArray(new int[0][]);
     }
 
-    /** Fails at exactly the values whose first two cells add up to sum. */
-    static int[][] firstTwoDoNotAddUpTo(int sum) {
-        return new int[][] {
-            {ChoiceShrink.OP_PUSH, 0}, {ChoiceShrink.OP_VAL, 0},
-            {ChoiceShrink.OP_PUSH, 1}, {ChoiceShrink.OP_VAL, 0},
-            {ChoiceShrink.OP_ADD, 0}, {ChoiceShrink.OP_PUSH, sum},
-            {ChoiceShrink.OP_EQ, 0}, {ChoiceShrink.OP_NOT, 0}};
+    /** Nodes or instructions, one part behind the other. */
+    static int[][] joined(int[][]... parts) {
+        List<int[]> all = new ArrayList<>();
+        for (int[][] part : parts) {
+            all.addAll(List.of(part));
+        }
+        return all.toArray(new int[0][]);
+    }
+
+    static int[][] repeated(int times, int... node) {
+        int[][] all = new int[times][];
+        Arrays.fill(all, node);
+        return all;
+    }
+
+    /** Fails at exactly the values whose first cells add up to sum. */
+    static int[][] sumIsNot(int cells, int sum) {
+        int[][] program = NOTHING;
+        for (int i = 0; i < cells; i++) {
+            program = joined(program, new int[][] {{ChoiceShrink.OP_PUSH, i}, {ChoiceShrink.OP_VAL, 0}});
+        }
+        return joined(program, repeated(cells - 1, ChoiceShrink.OP_ADD, 0),
+            new int[][] {{ChoiceShrink.OP_PUSH, sum}, {ChoiceShrink.OP_EQ, 0}, {ChoiceShrink.OP_NOT, 0}});
+    }
+
+    /** Fails at exactly the values that begin with these cells, of which six are the most that 32 instructions tell. */
+    static int[][] doesNotBeginWith(int... cells) {
+        int[][] program = NOTHING;
+        for (int i = 0; i < cells.length; i++) {
+            int[][] equal = {{ChoiceShrink.OP_PUSH, i}, {ChoiceShrink.OP_VAL, 0},
+                {ChoiceShrink.OP_PUSH, cells[i]}, {ChoiceShrink.OP_EQ, 0}};
+            program = joined(program, equal, i == 0 ? NOTHING : new int[][] {{ChoiceShrink.OP_MUL, 0}});
+        }
+        return joined(program, new int[][] {{ChoiceShrink.OP_NOT, 0}});
+    }
+
+    /** Fails at exactly the values of this many cells. */
+    static int[][] lengthIsNot(int cells) {
+        return new int[][] {{ChoiceShrink.OP_LEN, 0}, {ChoiceShrink.OP_PUSH, cells}, {ChoiceShrink.OP_EQ, 0},
+            {ChoiceShrink.OP_NOT, 0}};
     }
 }

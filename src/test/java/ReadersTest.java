@@ -1,35 +1,43 @@
+import java.util.ArrayList;
+import java.util.List;
+import java.util.function.IntUnaryOperator;
+import java.util.function.Supplier;
+
 /** Promises 9 to 14: phase, the three sequences, stat and cursor. */
 public final class ReadersTest {
-    private static final int[] FAR = {Integer.MIN_VALUE, -100, -2, -1, 32, 33, 100, Integer.MAX_VALUE};
+    private static final String ZEROS = "[0, 0, 0, 0, 0, 0]";
 
     public static void main(String[] args) {
-        emptyInIdle();
         phaseFollowsTheWork();
-        sequencesAndTheirEnds();
+        emptyInIdle();
+        choicesAndTheirEnds();
+        originalChoicesAndTheirEnds();
+        cellsAndTheirEnds();
+        sequencesOfOne();
+        sequencesOfTheGreatestLength();
         statTellsEachField();
+        statTellsCompleteness();
+        statTellsANegativeState();
         otherStatsAreZero();
         cursorTellsEachField();
         otherCursorsAreZero();
         cursorIsZeroUnlessUnderWay();
+        cursorHasNoBoundsOutsidePass3();
         readingChangesNothing();
         Check.end("ReadersTest");
     }
 
-    private static void emptyInIdle() {
-        ChoiceShrink x = Make.fed(8, Make.ints(2, 255), Make.ALWAYS, 7, 3);
-        x.replay();
-        x.run(16);
-        Check.due("phase()", ChoiceShrink.PH_IDLE, x.phase());
-        Check.due("seqLength()", 0, x.seqLength());
-        Check.due("origLength()", 0, x.origLength());
-        Check.due("valueLength()", 0, x.valueLength());
-        for (int i = -1; i <= 32; i++) {
-            readsNothing(x, i);
-        }
+    private static List<Supplier<ChoiceShrink>> everyMoment() {
+        List<Supplier<ChoiceShrink>> all = new ArrayList<>();
+        all.addAll(Moment.idle().values());
+        all.addAll(Moment.found().values());
+        all.addAll(Moment.done().values());
+        return all;
     }
 
     private static void phaseFollowsTheWork() {
-        ChoiceShrink x = Make.fed(8, Make.ints(2, 255), Make.firstTwoDoNotAddUpTo(10), 7);
+        Check.says("phase() answers the current phase: PH_IDLE, PH_FOUND or PH_DONE.");
+        ChoiceShrink x = Make.fed(8, Make.ints(2, 255), Make.sumIsNot(2, 10), 7);
         Check.due("phase() before", ChoiceShrink.PH_IDLE, x.phase());
         x.replay();
         Check.due("phase() after an invalid replay", ChoiceShrink.PH_IDLE, x.phase());
@@ -42,41 +50,101 @@ public final class ReadersTest {
         Check.due("phase() after the last trial", ChoiceShrink.PH_DONE, x.phase());
         x.discard();
         Check.due("phase() after discard", ChoiceShrink.PH_IDLE, x.phase());
+        Moment.idle().forEach((moment, made) -> Check.due(moment, ChoiceShrink.PH_IDLE, made.get().phase()));
+        Moment.found().forEach((moment, made) -> Check.due(moment, ChoiceShrink.PH_FOUND, made.get().phase()));
+        Moment.done().forEach((moment, made) -> Check.due(moment, ChoiceShrink.PH_DONE, made.get().phase()));
     }
 
-    /** S, O and V have different lengths here, so none can stand for another. */
-    private static void sequencesAndTheirEnds() {
-        ChoiceShrink x = Make.fed(8, Make.LIST_OF_INT, Make.NEVER, 1, 5, 1, 6, 2, 7, 0, 99);
-        x.replay();
-        Check.due("seqLength()", 7, x.seqLength());
-        x.shrink(1);
-        Check.due("seqLength()", 3, x.seqLength());
-        Check.due("choiceAt(0)", 2, x.choiceAt(0));
-        Check.due("choiceAt(1)", 7, x.choiceAt(1));
-        Check.due("choiceAt(2)", 0, x.choiceAt(2));
-        Check.due("choiceAt(3)", -1, x.choiceAt(3));
-        Check.due("origLength()", 7, x.origLength());
-        Check.due("origChoiceAt(0)", 1, x.origChoiceAt(0));
-        Check.due("origChoiceAt(4)", 2, x.origChoiceAt(4));
-        Check.due("origChoiceAt(6)", 0, x.origChoiceAt(6));
-        Check.due("origChoiceAt(7)", -1, x.origChoiceAt(7));
-        Check.due("valueLength()", 2, x.valueLength());
-        Check.due("valueAt(0)", 1, x.valueAt(0));
-        Check.due("valueAt(1)", 7, x.valueAt(1));
-        Check.due("valueAt(2)", -1, x.valueAt(2));
-        for (int i : FAR) {
-            readsNothing(x, i);
+    private static void emptyInIdle() {
+        Check.says("(0 in PH_IDLE) ... (so always -1 in PH_IDLE)");
+        for (Supplier<ChoiceShrink> made : Moment.idle().values()) {
+            ChoiceShrink x = made.get();
+            readsExactly("choiceAt", x::choiceAt, x.seqLength());
+            readsExactly("origChoiceAt", x::origChoiceAt, x.origLength());
+            readsExactly("valueAt", x::valueAt, x.valueLength());
         }
     }
 
-    private static void readsNothing(ChoiceShrink x, int i) {
-        Check.due("choiceAt(" + i + ")", -1, x.choiceAt(i));
-        Check.due("origChoiceAt(" + i + ")", -1, x.origChoiceAt(i));
-        Check.due("valueAt(" + i + ")", -1, x.valueAt(i));
+    /** The reader answers these and, at every other index, -1. */
+    private static void readsExactly(String reader, IntUnaryOperator asked, int length, int... due) {
+        Check.due("length of " + reader, due.length, length);
+        for (int i = -3; i <= 40; i++) {
+            boolean inside = i >= 0 && i < due.length;
+            Check.due(reader + "(" + i + ")", inside ? due[i] : -1, asked.applyAsInt(i));
+        }
+        for (int i : new int[] {Make.LEAST, Make.LEAST + 1, -256, 64, 256, 65536, Make.GREATEST - 1, Make.GREATEST}) {
+            Check.due(reader + "(" + i + ")", -1, asked.applyAsInt(i));
+        }
+    }
+
+    /** S, O and V have different lengths here, so none can stand for another. */
+    private static ChoiceShrink shrunkOnce() {
+        ChoiceShrink x = Make.found(8, Make.LIST_OF_INT, Make.NEVER, 1, 5, 1, 6, 2, 7, 0, 99);
+        x.shrink(1);
+        return x;
+    }
+
+    private static void choicesAndTheirEnds() {
+        Check.says("seqLength() answers len(S). choiceAt(i) answers S[i], or -1 if i is not in 0..len(S)-1");
+        ChoiceShrink x = shrunkOnce();
+        readsExactly("choiceAt", x::choiceAt, x.seqLength(), 2, 7, 0);
+        ChoiceShrink done = Moment.sevenThree(23);
+        readsExactly("choiceAt in PH_DONE", done::choiceAt, done.seqLength(), 3, 7);
+        ChoiceShrink found = Moment.sevenThree(0);
+        readsExactly("choiceAt in PH_FOUND", found::choiceAt, found.seqLength(), 7, 3);
+    }
+
+    private static void originalChoicesAndTheirEnds() {
+        Check.says("origLength() answers len(O). origChoiceAt(i) answers O[i], or -1 if i is not in 0..len(O)-1.");
+        ChoiceShrink x = shrunkOnce();
+        readsExactly("origChoiceAt", x::origChoiceAt, x.origLength(), 1, 5, 1, 6, 2, 7, 0);
+        ChoiceShrink done = Moment.sevenThree(23);
+        readsExactly("origChoiceAt in PH_DONE", done::origChoiceAt, done.origLength(), 7, 3);
+        ChoiceShrink found = Moment.sevenThree(0);
+        readsExactly("origChoiceAt in PH_FOUND", found::origChoiceAt, found.origLength(), 7, 3);
+    }
+
+    private static void cellsAndTheirEnds() {
+        Check.says("valueLength() answers the number of cells of V. valueAt(i) answers V[i], or -1 if i is not in "
+            + "0..valueLength()-1.");
+        ChoiceShrink x = shrunkOnce();
+        readsExactly("valueAt", x::valueAt, x.valueLength(), 1, 7);
+        ChoiceShrink done = Moment.sevenThree(23);
+        readsExactly("valueAt in PH_DONE", done::valueAt, done.valueLength(), 3, 7);
+        ChoiceShrink bounded = Make.found(8, Make.ints(2, 9), Make.NEVER, 255, 10);
+        readsExactly("valueAt of bounded ints", bounded::valueAt, bounded.valueLength(), 5, 0);
+    }
+
+    private static void sequencesOfOne() {
+        Check.says("if i is not in 0..len(S)-1 (one choice, the fewest that a counterexample has)");
+        ChoiceShrink x = Make.found(8, Make.LIST_OF_INT, Make.NEVER, 0, 9, 9);
+        readsExactly("choiceAt", x::choiceAt, x.seqLength(), 0);
+        readsExactly("origChoiceAt", x::origChoiceAt, x.origLength(), 0);
+        readsExactly("valueAt", x::valueAt, x.valueLength(), 0);
+    }
+
+    private static void sequencesOfTheGreatestLength() {
+        Check.says("if i is not in 0..len(S)-1 (32 choices, the most that a counterexample has)");
+        int[][] gen = Make.joined(new int[][] {{ChoiceShrink.G_LIST, 0}}, Make.ints(3, 255));
+        int[] choices = new int[32];
+        int[] cells = new int[25];
+        cells[0] = 8;
+        for (int j = 0; j < 32; j++) {
+            choices[j] = 100 + j;
+            if (j % 4 > 0) {
+                cells[j / 4 * 3 + j % 4] = 100 + j;
+            }
+        }
+        ChoiceShrink x = Make.found(32, gen, Make.NEVER, choices);
+        readsExactly("choiceAt", x::choiceAt, x.seqLength(), choices);
+        readsExactly("origChoiceAt", x::origChoiceAt, x.origLength(), choices);
+        readsExactly("valueAt", x::valueAt, x.valueLength(), cells);
     }
 
     /** Every field has a number of its own. */
     private static void statTellsEachField() {
+        Check.says("stat(what) answers: 0 trials; 1 accepted; 2 generator nodes; 3 program length; 4 len(M); 5 cases; "
+            + "6 generator complete (1 or 0); 7 PRNG state");
         ChoiceShrink x = busy();
         Check.due("stat(0)", 12, x.stat(0));
         Check.due("stat(1)", 1, x.stat(1));
@@ -90,36 +158,52 @@ public final class ReadersTest {
             state = state * 1103515245 + 12345;
         }
         Check.due("stat(7)", state, x.stat(7));
-        Check.due("stat(7) is negative for some seed", 1, firstNegativeState() < 0 ? 1 : 0);
     }
 
-    private static int firstNegativeState() {
-        for (int seed = 0; seed < 100; seed++) {
-            ChoiceShrink x = Make.tester(seed, 8, Make.ints(1, 255), Make.ALWAYS);
-            x.run(1);
-            int due = seed * 1103515245 + 12345;
-            Check.due("stat(7) after one draw from " + seed, due, x.stat(7));
-            if (x.stat(7) < 0) {
-                return x.stat(7);
-            }
-        }
-        return 0;
+    private static void statTellsCompleteness() {
+        Check.says("6 generator complete (1 or 0)");
+        ChoiceShrink x = new ChoiceShrink(1, 8);
+        Check.due("stat(6) of no node", 0, x.stat(6));
+        x.addGen(ChoiceShrink.G_PAIR, 0);
+        Check.due("stat(6) of a pair", 0, x.stat(6));
+        x.addGen(ChoiceShrink.G_INT, 0);
+        Check.due("stat(6) of a pair and an int", 0, x.stat(6));
+        x.addGen(ChoiceShrink.G_INT, 0);
+        Check.due("stat(6) of a pair and two ints", 1, x.stat(6));
+        x.discard();
+        Check.due("stat(6) after discard", 1, x.stat(6));
+        Check.due("stat(6) of sixteen pairs", 0,
+            Make.tester(1, 8, Make.repeated(16, ChoiceShrink.G_PAIR, 0), Make.NOTHING).stat(6));
+    }
+
+    private static void statTellsANegativeState() {
+        Check.says("7 PRNG state (as an int, possibly negative)");
+        ChoiceShrink x = Make.tester(2, 8, Make.ints(1, 255), Make.ALWAYS);
+        Check.due("stat(7) at the start", 2, x.stat(7));
+        x.run(1);
+        Check.due("stat(7) after one draw", -2087924461, x.stat(7));
+        x.run(1);
+        Check.due("stat(7) after two draws", 1495354192, x.stat(7));
     }
 
     private static void otherStatsAreZero() {
-        for (int what : new int[] {Integer.MIN_VALUE, -8, -7, -1, 8, 9, 32, Integer.MAX_VALUE}) {
-            Check.due("stat(" + what + ")", 0, busy().stat(what));
+        Check.says("Any other what answers 0. (stat)");
+        for (Supplier<ChoiceShrink> made : everyMoment()) {
+            ChoiceShrink x = made.get();
+            for (int what : new int[] {Make.LEAST, -8, -7, -1, 8, 9, 32, 256, 263, Make.GREATEST}) {
+                Check.due("stat(" + what + ")", 0, x.stat(what));
+            }
         }
     }
 
     /** Lowering the second choice in an improved round leaves no field at 0. */
     private static void cursorTellsEachField() {
+        Check.says("cursor(what) answers the shrink cursor: what 0 pass, 1 k, 2 i, 3 lo, 4 hi, 5 improved.");
         int[][] notBothAtLeast = {
             {ChoiceShrink.OP_PUSH, 0}, {ChoiceShrink.OP_VAL, 0}, {ChoiceShrink.OP_PUSH, 20}, {ChoiceShrink.OP_LT, 0},
             {ChoiceShrink.OP_PUSH, 1}, {ChoiceShrink.OP_VAL, 0}, {ChoiceShrink.OP_PUSH, 30}, {ChoiceShrink.OP_LT, 0},
             {ChoiceShrink.OP_ADD, 0}};
-        ChoiceShrink x = Make.fed(8, Make.ints(2, 255), notBothAtLeast, 40, 50);
-        Check.due("replay()", ChoiceShrink.R_FAILS, x.replay());
+        ChoiceShrink x = Make.found(8, Make.ints(2, 255), notBothAtLeast, 40, 50);
         // Six trials of deleting and zeroing, then 20, 10, 15, 18 and 19, then 25.
         Check.due("shrink(12)", 12, x.shrink(12));
         Check.due("S", "[20, 50]", State.sequence(x).toString());
@@ -132,44 +216,71 @@ public final class ReadersTest {
     }
 
     private static void otherCursorsAreZero() {
-        for (int what : new int[] {Integer.MIN_VALUE, -6, -5, -1, 6, 7, 32, Integer.MAX_VALUE}) {
-            Check.due("cursor(" + what + ")", 0, busy().cursor(what));
+        Check.says("Any other what answers 0. (cursor)");
+        for (Supplier<ChoiceShrink> made : everyMoment()) {
+            ChoiceShrink x = made.get();
+            for (int what : new int[] {Make.LEAST, -6, -5, -1, 6, 7, 32, 256, 261, Make.GREATEST}) {
+                Check.due("cursor(" + what + ")", 0, x.cursor(what));
+            }
         }
     }
 
     private static void cursorIsZeroUnlessUnderWay() {
-        String zeros = "[0, 0, 0, 0, 0, 0]";
-        ChoiceShrink x = Make.fed(8, Make.ints(2, 255), Make.firstTwoDoNotAddUpTo(10), 7, 3);
-        Check.due("cursor in PH_IDLE", zeros, State.cursor(x).toString());
-        x.replay();
-        Check.due("cursor before the first shrink", zeros, State.cursor(x).toString());
+        Check.says("In PH_IDLE, in PH_DONE, and in PH_FOUND before the first shrink call (NOT STARTED) every field "
+            + "reads 0.");
+        for (Supplier<ChoiceShrink> made : everyMoment()) {
+            ChoiceShrink x = made.get();
+            boolean underWay = x.phase() == ChoiceShrink.PH_FOUND && x.stat(0) > 0;
+            if (underWay) {
+                Check.due("cursor(0) under way", 1, x.cursor(0) >= 1 && x.cursor(0) <= 4 ? 1 : 0);
+            } else {
+                Check.due("cursor", ZEROS, State.cursor(x).toString());
+            }
+        }
+        ChoiceShrink x = Moment.sevenThree(0);
+        Check.due("cursor before the first shrink", ZEROS, State.cursor(x).toString());
         x.shrink(1);
-        Check.due("cursor under way", "[1, 1, 0, 0, 0, 0]", State.cursor(x).toString());
-        x.shrink(64);
-        Check.due("cursor in PH_DONE", zeros, State.cursor(x).toString());
-        x.discard();
-        Check.due("cursor after discard", zeros, State.cursor(x).toString());
+        Check.due("cursor after it", "[1, 1, 0, 0, 0, 0]", State.cursor(x).toString());
+    }
+
+    private static void cursorHasNoBoundsOutsidePass3() {
+        Check.says("k (in pass 1 or 2 the block size; in passes 3 and 4 it is 1); i; lo and hi (in pass 3 the current "
+            + "bounds; in other passes 0); improved.");
+        restsAt(1, 1, 1, 0, 0);
+        restsAt(3, 2, 2, 0, 0);
+        restsAt(4, 2, 1, 0, 0);
+        restsAt(6, 3, 1, 0, 7);
+        restsAt(8, 3, 1, 6, 7);
+        restsAt(11, 4, 1, 0, 0);
+        restsAt(12, 1, 2, 0, 0);
+    }
+
+    private static void restsAt(int trials, int pass, int k, int lo, int hi) {
+        ChoiceShrink x = Moment.sevenThree(trials);
+        Check.due("pass after " + trials, pass, x.cursor(0));
+        Check.due("k after " + trials, k, x.cursor(1));
+        Check.due("lo after " + trials, lo, x.cursor(3));
+        Check.due("hi after " + trials, hi, x.cursor(4));
     }
 
     private static void readingChangesNothing() {
-        ChoiceShrink x = busy();
-        String before = State.of(x);
-        for (int i = -2; i <= 40; i++) {
-            x.stat(i);
-            x.cursor(i);
-            x.choiceAt(i);
-            x.origChoiceAt(i);
-            x.valueAt(i);
+        Check.says("No change. (every reader)");
+        for (Supplier<ChoiceShrink> made : everyMoment()) {
+            ChoiceShrink x = made.get();
+            String before = State.everywhere(x);
+            Check.due("all after reading", before, State.everywhere(x));
+            Check.due("all that follows after reading", Refused.future(made.get()), Refused.future(x));
         }
-        Check.due("all after reading", before, State.of(x));
+        ChoiceShrink x = busy();
         ChoiceShrink y = busy();
+        State.everywhere(x);
         x.shrink(3);
         y.shrink(3);
         Check.due("all after shrinking on", State.of(y), State.of(x));
     }
 
     private static ChoiceShrink busy() {
-        ChoiceShrink x = Make.tester(7, 8, Make.ints(2, 255), Make.firstTwoDoNotAddUpTo(10));
+        ChoiceShrink x = Make.tester(7, 8, Make.ints(2, 255), Make.sumIsNot(2, 10));
         x.run(5);
         Make.feed(x, 7, 3);
         x.replay();

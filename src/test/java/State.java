@@ -1,5 +1,6 @@
 import java.util.ArrayList;
 import java.util.List;
+import java.util.function.IntUnaryOperator;
 
 /** Everything that can be read of an object, as one text, so that two moments can be compared whole. */
 final class State {
@@ -15,42 +16,43 @@ final class State {
         return "phase " + phase + " S " + s + " O " + o + " V " + v + " stat " + stats + " cursor " + cursor;
     }
 
+    /** The same, with what the readers answer outside of their bounds. */
+    static String everywhere(ChoiceShrink x) {
+        return of(x) + " choiceAt " + wide(x::choiceAt) + " origChoiceAt " + wide(x::origChoiceAt)
+            + " valueAt " + wide(x::valueAt) + " stat " + wide(x::stat) + " cursor " + wide(x::cursor);
+    }
+
     static List<Integer> sequence(ChoiceShrink x) {
-        List<Integer> list = new ArrayList<>();
-        for (int i = 0; i < x.seqLength(); i++) {
-            list.add(x.choiceAt(i));
-        }
-        return list;
+        return range(x::choiceAt, 0, x.seqLength());
     }
 
     static List<Integer> original(ChoiceShrink x) {
-        List<Integer> list = new ArrayList<>();
-        for (int i = 0; i < x.origLength(); i++) {
-            list.add(x.origChoiceAt(i));
-        }
-        return list;
+        return range(x::origChoiceAt, 0, x.origLength());
     }
 
     static List<Integer> value(ChoiceShrink x) {
-        List<Integer> list = new ArrayList<>();
-        for (int i = 0; i < x.valueLength(); i++) {
-            list.add(x.valueAt(i));
-        }
-        return list;
+        return range(x::valueAt, 0, x.valueLength());
     }
 
     static List<Integer> stats(ChoiceShrink x) {
-        List<Integer> list = new ArrayList<>();
-        for (int what = 0; what <= 7; what++) {
-            list.add(x.stat(what));
-        }
-        return list;
+        return range(x::stat, 0, 8);
     }
 
     static List<Integer> cursor(ChoiceShrink x) {
+        return range(x::cursor, 0, 6);
+    }
+
+    private static List<Integer> wide(IntUnaryOperator reader) {
+        List<Integer> list = range(reader, -2, 35);
+        list.add(reader.applyAsInt(Integer.MIN_VALUE));
+        list.add(reader.applyAsInt(Integer.MAX_VALUE));
+        return list;
+    }
+
+    private static List<Integer> range(IntUnaryOperator reader, int from, int to) {
         List<Integer> list = new ArrayList<>();
-        for (int what = 0; what <= 5; what++) {
-            list.add(x.cursor(what));
+        for (int i = from; i < to; i++) {
+            list.add(reader.applyAsInt(i));
         }
         return list;
     }
