@@ -1,8 +1,5 @@
 /** Promise 1: Construction. */
 public final class ConstructionTest {
-    /** Eight elements of three ints take 32 choices and give 25 cells. */
-    private static final int[][] LIST_OF_THREE = Make.joined(new int[][] {{ChoiceShrink.G_LIST, 0}}, Make.ints(3, 255));
-
     public static void main(String[] args) {
         seedIsClamped();
         seedIsTheInitialState();
@@ -100,7 +97,7 @@ public final class ConstructionTest {
 
     /** The length of the first record with eight elements in 800 cases, or 0. */
     private static int longestRecord(int cap) {
-        ChoiceShrink x = Make.tester(1, cap, LIST_OF_THREE, Make.lengthIsNot(25));
+        ChoiceShrink x = Make.tester(1, cap, Make.LIST_OF_THREE, Make.lengthIsNot(25));
         for (int call = 0; call < 50 && x.phase() == ChoiceShrink.PH_IDLE; call++) {
             x.run(16);
         }

@@ -1,4 +1,3 @@
-import java.util.Map;
 import java.util.function.Supplier;
 
 /** Promise 8: discard. */
@@ -134,17 +133,15 @@ public final class DiscardTest {
 
     private static void keepsGeneratorAndProgram() {
         Check.says("Generator, program, PRNG state and cases are kept. (generator and program)");
-        for (Map.Entry<String, Supplier<ChoiceShrink>> moment : Moment.found().entrySet()) {
-            ChoiceShrink x = moment.getValue().get();
-            boolean never = x.stat(3) == 1;
+        for (int trials = 0; trials <= 23; trials++) {
+            ChoiceShrink x = Moment.sevenThree(trials);
             x.discard();
             Make.feed(x, 8, 3);
-            int due = never ? ChoiceShrink.R_FAILS : ChoiceShrink.R_HOLDS;
-            Check.due(moment.getKey() + ": replay of 8, 3 after discard", due, x.replay());
+            Check.due("replay of 8, 3 after discard", ChoiceShrink.R_HOLDS, x.replay());
             x.discard();
             Make.feed(x, 8, 2);
-            Check.due(moment.getKey() + ": replay of 8, 2 after discard", ChoiceShrink.R_FAILS, x.replay());
-            Check.due(moment.getKey() + ": V", "[8, 2]", State.value(x).toString());
+            Check.due("replay of 8, 2 after discard", ChoiceShrink.R_FAILS, x.replay());
+            Check.due("V", "[8, 2]", State.value(x).toString());
         }
     }
 
@@ -174,6 +171,14 @@ public final class DiscardTest {
         Check.due("all after replay", State.of(Moment.sevenThree(0)), State.of(x));
         Check.due("shrink(64) after discard", 23, x.shrink(64));
         Check.due("all after shrink", State.of(Moment.sevenThree(23)), State.of(x));
+        // What an improved round left must not make the next finding's first round count as improved.
+        ChoiceShrink y = Moment.lowering();
+        y.discard();
+        Make.feed(y, 20, 30);
+        Check.due("replay() after discard", ChoiceShrink.R_FAILS, y.replay());
+        Check.due("cursor of the second finding", "[0, 0, 0, 0, 0, 0]", State.cursor(y).toString());
+        y.shrink(1);
+        Check.due("cursor after one trial", "[1, 1, 0, 0, 0, 0]", State.cursor(y).toString());
     }
 
     private static void isCleared(ChoiceShrink x) {

@@ -16,6 +16,9 @@ final class Make {
     /** A list of ints 0..255. */
     static final int[][] LIST_OF_INT = {{ChoiceShrink.G_LIST, 0}, {ChoiceShrink.G_INT, 255}};
 
+    /** A list of three ints each: its eight elements take 32 choices, the most there can be, and give 25 cells. */
+    static final int[][] LIST_OF_THREE = joined(new int[][] {{ChoiceShrink.G_LIST, 0}}, ints(3, 255));
+
     private Make() {
     }
 
@@ -73,6 +76,15 @@ final class Make {
         int[][] all = new int[times][];
         Arrays.fill(all, node);
         return all;
+    }
+
+    /** Instructions from their numbers in turn: op, arg, op, arg. */
+    static int[][] program(int... flat) {
+        int[][] program = new int[flat.length / 2][];
+        for (int at = 0; at < program.length; at++) {
+            program[at] = new int[] {flat[2 * at], flat[2 * at + 1]};
+        }
+        return program;
     }
 
     /** Fails at exactly the values whose first cells add up to sum. */

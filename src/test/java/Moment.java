@@ -41,6 +41,7 @@ final class Moment {
         all.put("resting in pass 4", () -> sevenThree(11));
         all.put("resting in round 2", () -> sevenThree(12));
         all.put("resting before the last trial", () -> sevenThree(22));
+        all.put("resting with no field of the cursor at 0", Moment::lowering);
         return all;
     }
 
@@ -57,6 +58,18 @@ final class Moment {
         if (trials > 0) {
             Check.due("shrink(" + trials + ")", trials, x.shrink(trials));
         }
+        return x;
+    }
+
+    /** Lowering the second of two choices, which must be 20 and 30 at least, in a round that has improved. */
+    static ChoiceShrink lowering() {
+        int[][] firstOrSecondIsLess = Make.program(
+            ChoiceShrink.OP_PUSH, 0, ChoiceShrink.OP_VAL, 0, ChoiceShrink.OP_PUSH, 20, ChoiceShrink.OP_LT, 0,
+            ChoiceShrink.OP_PUSH, 1, ChoiceShrink.OP_VAL, 0, ChoiceShrink.OP_PUSH, 30, ChoiceShrink.OP_LT, 0,
+            ChoiceShrink.OP_ADD, 0);
+        ChoiceShrink x = Make.found(4, TWO_INTS, firstOrSecondIsLess, 40, 50);
+        // Six trials of deleting and zeroing, then 20, 10, 15, 18 and 19, then 25.
+        Check.due("shrink(12)", 12, x.shrink(12));
         return x;
     }
 

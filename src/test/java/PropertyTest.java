@@ -101,13 +101,13 @@ public final class PropertyTest {
 
     private static void everyRunCountsItsOwnSteps() {
         Check.says("starting with pc := 0 and steps := 0");
-        ChoiceShrink x = Make.fed(8, Make.ints(3, 255), instructions(countdown(50, 5, DROP, 0)), 11, 22, 33);
+        ChoiceShrink x = Make.fed(8, Make.ints(3, 255), Make.program(countdown(50, 5, DROP, 0)), 11, 22, 33);
         for (int call = 1; call <= 3; call++) {
             Check.due("replay() number " + call, HOLDS, x.replay());
         }
         Check.due("run(16)", 0, x.run(16));
         // Four cells are left each time, so a stack that is not emptied would be full in the fourth run.
-        ChoiceShrink y = Make.fed(8, Make.ints(3, 255), instructions(PUSH, 1, PUSH, 1, PUSH, 1, PUSH, 1), 11, 22, 33);
+        ChoiceShrink y = Make.fed(8, Make.ints(3, 255), Make.program(PUSH, 1, PUSH, 1, PUSH, 1, PUSH, 1), 11, 22, 33);
         for (int call = 1; call <= 9; call++) {
             Check.due("replay() number " + call, HOLDS, y.replay());
         }
@@ -258,16 +258,16 @@ public final class PropertyTest {
 
     private static void lengthAndLast(int length, int last, int[][] gen, int... choices) {
         Check.due("LEN of " + length, HOLDS,
-            Make.fed(32, gen, instructions(LEN, 0, PUSH, length, EQ, 0), choices).replay());
+            Make.fed(32, gen, Make.program(LEN, 0, PUSH, length, EQ, 0), choices).replay());
         Check.due("the last of " + length, HOLDS,
-            Make.fed(32, gen, instructions(PUSH, length - 1, VAL, 0, PUSH, last, EQ, 0), choices).replay());
+            Make.fed(32, gen, Make.program(PUSH, length - 1, VAL, 0, PUSH, last, EQ, 0), choices).replay());
         Check.due("the one behind " + length, HOLDS,
-            Make.fed(32, gen, instructions(PUSH, length, VAL, 0, PUSH, 0, EQ, 0), choices).replay());
+            Make.fed(32, gen, Make.program(PUSH, length, VAL, 0, PUSH, 0, EQ, 0), choices).replay());
     }
 
     private static void valForgetsALongerValue() {
         Check.says("push V[i] if 0 <= i < L, else 0 (where a longer value stood before)");
-        ChoiceShrink x = Make.tester(1, 32, Make.LIST_OF_INT, instructions(PUSH, 2, VAL, 0));
+        ChoiceShrink x = Make.tester(1, 32, Make.LIST_OF_INT, Make.program(PUSH, 2, VAL, 0));
         Make.feed(x, 1, 8, 1, 9, 0);
         Check.due("V[2] of two elements", HOLDS, x.replay());
         x.discard();
@@ -392,18 +392,10 @@ public final class PropertyTest {
         return longer;
     }
 
-    private static int[][] instructions(int... flat) {
-        int[][] program = new int[flat.length / 2][];
-        for (int at = 0; at < program.length; at++) {
-            program[at] = new int[] {flat[2 * at], flat[2 * at + 1]};
-        }
-        return program;
-    }
-
     private static void outcome(int want, int... program) {
         ChoiceShrink x = Make.fed(8, Make.ints(3, 255), Make.NOTHING, 11, 22, 33);
         List<String> text = new ArrayList<>();
-        for (int[] instruction : instructions(program)) {
+        for (int[] instruction : Make.program(program)) {
             Check.due("addOp", text.size(), x.addOp(instruction[0], instruction[1]));
             text.add(instruction[0] + " " + instruction[1]);
         }

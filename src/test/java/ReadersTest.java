@@ -125,7 +125,6 @@ public final class ReadersTest {
 
     private static void sequencesOfTheGreatestLength() {
         Check.says("if i is not in 0..len(S)-1 (32 choices, the most that a counterexample has)");
-        int[][] gen = Make.joined(new int[][] {{ChoiceShrink.G_LIST, 0}}, Make.ints(3, 255));
         int[] choices = new int[32];
         int[] cells = new int[25];
         cells[0] = 8;
@@ -135,7 +134,7 @@ public final class ReadersTest {
                 cells[j / 4 * 3 + j % 4] = 100 + j;
             }
         }
-        ChoiceShrink x = Make.found(32, gen, Make.NEVER, choices);
+        ChoiceShrink x = Make.found(32, Make.LIST_OF_THREE, Make.NEVER, choices);
         readsExactly("choiceAt", x::choiceAt, x.seqLength(), choices);
         readsExactly("origChoiceAt", x::origChoiceAt, x.origLength(), choices);
         readsExactly("valueAt", x::valueAt, x.valueLength(), cells);
@@ -196,16 +195,9 @@ public final class ReadersTest {
         }
     }
 
-    /** Lowering the second choice in an improved round leaves no field at 0. */
     private static void cursorTellsEachField() {
         Check.says("cursor(what) answers the shrink cursor: what 0 pass, 1 k, 2 i, 3 lo, 4 hi, 5 improved.");
-        int[][] notBothAtLeast = {
-            {ChoiceShrink.OP_PUSH, 0}, {ChoiceShrink.OP_VAL, 0}, {ChoiceShrink.OP_PUSH, 20}, {ChoiceShrink.OP_LT, 0},
-            {ChoiceShrink.OP_PUSH, 1}, {ChoiceShrink.OP_VAL, 0}, {ChoiceShrink.OP_PUSH, 30}, {ChoiceShrink.OP_LT, 0},
-            {ChoiceShrink.OP_ADD, 0}};
-        ChoiceShrink x = Make.found(8, Make.ints(2, 255), notBothAtLeast, 40, 50);
-        // Six trials of deleting and zeroing, then 20, 10, 15, 18 and 19, then 25.
-        Check.due("shrink(12)", 12, x.shrink(12));
+        ChoiceShrink x = Moment.lowering();
         Check.due("S", "[20, 50]", State.sequence(x).toString());
         Check.due("cursor(0)", 3, x.cursor(0));
         Check.due("cursor(1)", 1, x.cursor(1));

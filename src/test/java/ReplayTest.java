@@ -89,8 +89,7 @@ public final class ReplayTest {
 
     private static void findsAsLongAsCap() {
         Check.says("On R_FAILS the consumed prefix of M is FOUND (all of a full M)");
-        int[][] gen = Make.joined(new int[][] {{LIST, 0}}, Make.ints(3, 255));
-        ChoiceShrink x = Make.tester(1, 32, gen, Make.NEVER);
+        ChoiceShrink x = Make.tester(1, 32, Make.LIST_OF_THREE, Make.NEVER);
         for (int element = 0; element < 8; element++) {
             Make.feed(x, 255, 254, 253, 252);
         }

@@ -85,7 +85,7 @@ public final class ShrinkProcedureTest {
 
     private static void shorterIsLess() {
         Check.says("Shortlex order: A < B iff len(A) < len(B) (whatever the choices are)");
-        int[][] isEmpty = program(LEN, 0, PUSH, 2, LT, 0);
+        int[][] isEmpty = Make.program(LEN, 0, PUSH, 2, LT, 0);
         ChoiceShrink x = Make.found(8, Make.LIST_OF_INT, isEmpty, 1, 5, 2, 7, 0);
         // Four removed leave 0, which holds, and 1, which is invalid; then 1, 5 is removed.
         rests(x, "1 4 1 0 0 0", "1 2 0 0 0 0", "1 2 0 0 0 1");
@@ -95,7 +95,7 @@ public final class ShrinkProcedureTest {
     /** Fails where there are three elements, or where the first is 1. */
     private static void theConsumedPrefixIsKept() {
         Check.says("and its consumed prefix P is shortlex-less than S, the trial is ACCEPTED: S := P");
-        int[][] program = program(LEN, 0, PUSH, 4, EQ, 0, PUSH, 1, VAL, 0, PUSH, 1, EQ, 0, ADD, 0, NOT, 0);
+        int[][] program = Make.program(LEN, 0, PUSH, 4, EQ, 0, PUSH, 1, VAL, 0, PUSH, 1, EQ, 0, ADD, 0, NOT, 0);
         ChoiceShrink x = Make.found(8, Make.LIST_OF_INT, program, 1, 5, 1, 0, 1, 7, 0);
         Check.due("shrink(10)", 10, x.shrink(10));
         isAt(x, "[1, 5, 1, 0, 1, 7, 0]", "[3, 5, 0, 7]", 10, 0);
@@ -176,7 +176,7 @@ public final class ShrinkProcedureTest {
 
     private static void zeroesAndGoesOn() {
         Check.says("and if accepted improved := 1; then i := i+1");
-        int[][] lastIsNot9 = program(PUSH, 3, VAL, 0, PUSH, 9, EQ, 0, NOT, 0);
+        int[][] lastIsNot9 = Make.program(PUSH, 3, VAL, 0, PUSH, 9, EQ, 0, NOT, 0);
         ChoiceShrink x = Make.found(8, Make.ints(4, 255), lastIsNot9, 5, 6, 7, 9);
         restsBehindPass1(x, 8, "2 4 0 0 0 0", "2 2 0 0 0 0");
         isAt(x, "[5, 6, 7, 9]", "[5, 6, 7, 9]", 9, 0);
@@ -235,7 +235,7 @@ public final class ShrinkProcedureTest {
     private static void lowersTheGreatestDownwards() {
         Check.says("TRIAL(S with S[i] := mid); if accepted, improved := 1 and hi := mid, else lo := mid+1 (all but the "
             + "last are accepted from 255)");
-        ChoiceShrink x = Make.found(8, Make.ints(1, 255), program(PUSH, 0, VAL, 0, NOT, 0), 255);
+        ChoiceShrink x = Make.found(8, Make.ints(1, 255), Make.program(PUSH, 0, VAL, 0, NOT, 0), 255);
         restsBehindPass1(x, 1, "2 1 0 0 0 0", "3 1 0 0 255 0", "3 1 0 0 127 1", "3 1 0 0 63 1", "3 1 0 0 31 1",
             "3 1 0 0 15 1", "3 1 0 0 7 1", "3 1 0 0 3 1", "3 1 0 0 1 1", "1 1 0 0 0 0");
         isAt(x, "[1]", "[1]", 10, 7);
@@ -246,7 +246,7 @@ public final class ShrinkProcedureTest {
     /** Fails where the first cell is 3, or is 6 in a value of three cells. */
     private static void lowersAndShortens() {
         Check.says("Below, n always denotes len(S) at the moment, so loop conditions see the current S. (pass 3)");
-        int[][] program = program(PUSH, 0, VAL, 0, PUSH, 3, EQ, 0, PUSH, 0, VAL, 0, PUSH, 6, EQ, 0,
+        int[][] program = Make.program(PUSH, 0, VAL, 0, PUSH, 3, EQ, 0, PUSH, 0, VAL, 0, PUSH, 6, EQ, 0,
             LEN, 0, PUSH, 3, EQ, 0, MUL, 0, ADD, 0, NOT, 0);
         ChoiceShrink x = Make.found(8, INT_THEN_LIST, program, 6, 1, 9, 0);
         Check.due("shrink(13)", 13, x.shrink(13));
@@ -310,7 +310,7 @@ public final class ShrinkProcedureTest {
     /** Fails at three cells, or at two of which the second is 1. */
     private static void sortsAndShortens() {
         Check.says("Below, n always denotes len(S) at the moment, so loop conditions see the current S. (pass 4)");
-        int[][] program = program(LEN, 0, PUSH, 3, EQ, 0, LEN, 0, PUSH, 2, EQ, 0, PUSH, 1, VAL, 0, PUSH, 1, EQ, 0,
+        int[][] program = Make.program(LEN, 0, PUSH, 3, EQ, 0, LEN, 0, PUSH, 2, EQ, 0, PUSH, 1, VAL, 0, PUSH, 1, EQ, 0,
             MUL, 0, ADD, 0, NOT, 0);
         ChoiceShrink x = Make.found(8, LIST_THEN_INT, program, 1, 0, 0, 0);
         Check.due("shrink(11)", 11, x.shrink(11));
@@ -351,7 +351,7 @@ public final class ShrinkProcedureTest {
     private static void neverGrows() {
         Check.says("Since S only ever changes to a shortlex-smaller sequence, S is never shortlex-greater than O.");
         for (int seed = 0; seed < 50; seed++) {
-            ChoiceShrink x = Make.tester(seed, 32, LIST_OF_TWO, program(LEN, 0, PUSH, 6, LT, 0));
+            ChoiceShrink x = Make.tester(seed, 32, LIST_OF_TWO, Make.program(LEN, 0, PUSH, 6, LT, 0));
             x.run(16);
             String s = shortlex(x);
             for (int call = 0; call < 2000 && x.phase() == ChoiceShrink.PH_FOUND; call++) {
@@ -399,14 +399,6 @@ public final class ShrinkProcedureTest {
             Check.due("shrink(" + (trials - 1) + ")", trials - 1, x.shrink(trials - 1));
         }
         rests(x, cursors);
-    }
-
-    private static int[][] program(int... flat) {
-        int[][] program = new int[flat.length / 2][];
-        for (int at = 0; at < program.length; at++) {
-            program[at] = new int[] {flat[2 * at], flat[2 * at + 1]};
-        }
-        return program;
     }
 
     private static void isAt(ChoiceShrink x, String s, String v, int trials, int accepted) {

@@ -249,11 +249,10 @@ public final class ShrinkTest {
         Check.due("all that follows", Refused.future(other), Refused.future(x));
     }
 
-    /** Eight elements of three ints take 32 choices; it fails only where there are all eight. */
+    /** It fails only where there are all eight elements. */
     private static void aSequenceOfTheGreatestLength() {
         Check.says("Continues the SHRINK PROCEDURE. (with as many choices as there can be)");
-        int[][] gen = Make.joined(new int[][] {{ChoiceShrink.G_LIST, 0}}, Make.ints(3, 255));
-        ChoiceShrink x = Make.tester(1, 32, gen, Make.lengthIsNot(25));
+        ChoiceShrink x = Make.tester(1, 32, Make.LIST_OF_THREE, Make.lengthIsNot(25));
         String s = "";
         String v = "";
         for (int element = 0; element < 8; element++) {
