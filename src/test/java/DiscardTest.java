@@ -27,7 +27,11 @@ public final class DiscardTest {
         String before = State.everywhere(x);
         x.discard();
         Check.due("all after discard of a new object", before, State.everywhere(x));
-        Check.due("all that follows", Refused.future(new ChoiceShrink(7, 8)), Refused.future(x));
+        Future.same("discard of a new object", () -> new ChoiceShrink(7, 8), () -> {
+            ChoiceShrink discarded = new ChoiceShrink(7, 8);
+            discarded.discard();
+            return discarded;
+        });
     }
 
     private static void worksInEveryPhase() {

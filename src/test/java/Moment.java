@@ -25,6 +25,7 @@ final class Moment {
         all.put("thirty-two instructions", () -> Make.fed(4, TWO_INTS, thirtyTwo, 7, 3));
         all.put("ready", () -> Make.fed(4, TWO_INTS, ADDS_UP, 7, 3));
         all.put("ready, with a full buffer", () -> Make.fed(4, TWO_INTS, ADDS_UP, 7, 3, 1, 2));
+        all.put("ready, with a full buffer used whole", () -> Make.fed(4, Make.ints(4, 255), ADDS_UP, 7, 4, 1, 2));
         all.put("discarded", Moment::discarded);
         return all;
     }

@@ -1,3 +1,4 @@
+import java.util.Arrays;
 import java.util.function.Supplier;
 
 /** Promise 4: pushChoice. */
@@ -58,9 +59,17 @@ public final class PushChoiceTest {
             Check.due("cap " + cap + ": pushChoice when full", -1, x.pushChoice(0));
             int full = cap;
             for (int c : new int[] {Make.LEAST, -1, 0, 1, 255, 256, Make.GREATEST}) {
-                refuses(() -> Make.fed(full, Make.ints(2, 255), Make.NEVER, new int[full]), c);
+                // Up to eight ints, and then again with 32, the last choice of the buffer is used.
+                int[][] gen = cap == 32 ? Make.LIST_OF_THREE : Make.ints(cap < 8 ? cap : 8, 255);
+                refuses(() -> Make.fed(full, gen, Make.ALWAYS, sevens(full)), c);
             }
         }
+    }
+
+    private static int[] sevens(int count) {
+        int[] choices = new int[count];
+        Arrays.fill(choices, 7);
+        return choices;
     }
 
     private static void refusesWhenFullInEveryPhase() {

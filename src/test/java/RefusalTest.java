@@ -100,8 +100,9 @@ public final class RefusalTest {
         refuses("thirty-two instructions", idle, "addGen", "addOp", "shrink");
         refuses("ready", idle, "addGen", "shrink");
         refuses("ready, with a full buffer", idle, "addGen", "pushChoice", "shrink");
+        refuses("ready, with a full buffer used whole", idle, "addGen", "pushChoice", "shrink");
         refuses("discarded", idle, "addGen", "shrink");
-        Check.due("moments in PH_IDLE", 10, idle.size());
+        Check.due("moments in PH_IDLE", 11, idle.size());
     }
 
     private static void inFound() {

@@ -126,8 +126,11 @@ public final class ReplayTest {
         String before = State.everywhere(x);
         Check.due("replay()", outcome, x.replay());
         Check.due("all after it", before, State.everywhere(x));
-        String untouched = Refused.future(made.get());
-        Check.due("all that follows after it", untouched, Refused.future(x));
+        Future.same("it", made, () -> {
+            ChoiceShrink replayed = made.get();
+            replayed.replay();
+            return replayed;
+        });
     }
 
     private static void keepsTheBuffer() {

@@ -241,12 +241,17 @@ public final class ShrinkTest {
         }
         Check.due("phase()", ChoiceShrink.PH_DONE, x.phase());
         Check.due("S", "[0]", State.sequence(x).toString());
-        // The same generator, program and random state go on as in an object that never shrank.
-        ChoiceShrink other = Make.tester(7, 16, Make.LIST_OF_INT, Make.NEVER);
-        other.run(16);
+        Future.same("a shrink and a discard", () -> shrunkAndDiscarded(0), () -> shrunkAndDiscarded(9));
+    }
+
+    private static ChoiceShrink shrunkAndDiscarded(int calls) {
+        ChoiceShrink x = Make.tester(7, 16, Make.LIST_OF_INT, Make.NEVER);
+        x.run(16);
+        for (int call = 0; call < calls; call++) {
+            x.shrink(3);
+        }
         x.discard();
-        other.discard();
-        Check.due("all that follows", Refused.future(other), Refused.future(x));
+        return x;
     }
 
     /** It fails only where there are all eight elements. */
