@@ -310,8 +310,8 @@ public final class PropertyTest {
     }
 
     private static void stackWork() {
-        Check.says("OP_DUP: push a copy of the top. OP_SWAP: exchange the two top cells. OP_DROP: pop. OP_OVER: push a "
-            + "copy of the cell under the top.");
+        Check.says("OP_DUP: push a copy of the top (needs 1). OP_SWAP: exchange the two top cells (needs 2). OP_DROP: "
+            + "pop (needs 1). OP_OVER: push a copy of the cell under the top (needs 2).");
         leaves(10, PUSH, 5, DUP, 0, ADD, 0);
         leaves(5, PUSH, 9, PUSH, 5, DUP, 0, DROP, 0);
         leaves(5, PUSH, 5, PUSH, 7, SWAP, 0);

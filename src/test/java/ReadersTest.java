@@ -85,7 +85,7 @@ public final class ReadersTest {
     }
 
     private static void choicesAndTheirEnds() {
-        Check.says("seqLength() answers len(S). choiceAt(i) answers S[i], or -1 if i is not in 0..len(S)-1");
+        Check.says("seqLength() answers len(S) (0 in PH_IDLE). choiceAt(i) answers S[i], or -1 if i is not in 0..len(S)-1");
         ChoiceShrink x = shrunkOnce();
         readsExactly("choiceAt", x::choiceAt, x.seqLength(), 2, 7, 0);
         ChoiceShrink done = Moment.sevenThree(23);
@@ -95,7 +95,8 @@ public final class ReadersTest {
     }
 
     private static void originalChoicesAndTheirEnds() {
-        Check.says("origLength() answers len(O). origChoiceAt(i) answers O[i], or -1 if i is not in 0..len(O)-1.");
+        Check.says("origLength() answers len(O) (0 in PH_IDLE). origChoiceAt(i) answers O[i], or -1 if i is not in "
+            + "0..len(O)-1.");
         ChoiceShrink x = shrunkOnce();
         readsExactly("origChoiceAt", x::origChoiceAt, x.origLength(), 1, 5, 1, 6, 2, 7, 0);
         ChoiceShrink done = Moment.sevenThree(23);
@@ -105,8 +106,8 @@ public final class ReadersTest {
     }
 
     private static void cellsAndTheirEnds() {
-        Check.says("valueLength() answers the number of cells of V. valueAt(i) answers V[i], or -1 if i is not in "
-            + "0..valueLength()-1.");
+        Check.says("valueLength() answers the number of cells of V, the value generated from S (0 in PH_IDLE). "
+            + "valueAt(i) answers V[i], or -1 if i is not in 0..valueLength()-1.");
         ChoiceShrink x = shrunkOnce();
         readsExactly("valueAt", x::valueAt, x.valueLength(), 1, 7);
         ChoiceShrink done = Moment.sevenThree(23);
