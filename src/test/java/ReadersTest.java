@@ -85,7 +85,8 @@ public final class ReadersTest {
     }
 
     private static void choicesAndTheirEnds() {
-        Check.says("seqLength() answers len(S) (0 in PH_IDLE). choiceAt(i) answers S[i], or -1 if i is not in 0..len(S)-1");
+        Check.says("seqLength() answers len(S) (0 in PH_IDLE). choiceAt(i) answers S[i], or -1 if i is not in "
+            + "0..len(S)-1");
         ChoiceShrink x = shrunkOnce();
         readsExactly("choiceAt", x::choiceAt, x.seqLength(), 2, 7, 0);
         ChoiceShrink done = Moment.sevenThree(23);
