@@ -16,6 +16,9 @@ public final class AddGenTest {
         ignoresTheBoundOfListsAndPairs();
         appendsInPrefixOrder();
         answersTheIndex();
+        appendsOneNode();
+        kindsHaveTheirChildren();
+        countsWhatIsOpen();
         tellsWhenComplete();
         changesNothingElse();
         Check.end("AddGenTest");
@@ -93,7 +96,7 @@ public final class AddGenTest {
     }
 
     private static void takesASixteenthNodeThatCompletes() {
-        Check.says("A list of at most 16 nodes in prefix order.");
+        Check.says("Generator. A list of at most 16 nodes in prefix order.");
         ChoiceShrink x = new ChoiceShrink(1, 32);
         for (int index = 0; index < 15; index++) {
             Check.due("addGen list", index, x.addGen(LIST, 0));
@@ -133,14 +136,64 @@ public final class AddGenTest {
     }
 
     private static void answersTheIndex() {
-        Check.says("the answer is the new node's index (0 for the first node, then 1, 2, ...)");
+        Check.says("open is updated as in the Terms, and the answer is the new node's index (0 for the first node, "
+            + "then 1, 2, ...).");
         ChoiceShrink x = new ChoiceShrink(1, 8);
         Check.due("addGen pair", 0, x.addGen(PAIR, 0));
         Check.due("addGen list", 1, x.addGen(LIST, 0));
         Check.due("a refused one takes no index", -1, x.addGen(INT, 256));
         Check.due("addGen int", 2, x.addGen(INT, 3));
+        Check.due("stat(6) with one open", 0, x.stat(6));
         Check.due("addGen int", 3, x.addGen(INT, 4));
+        Check.due("stat(6) with none open", 1, x.stat(6));
         Check.due("stat(2)", 4, x.stat(2));
+    }
+
+    private static void appendsOneNode() {
+        Check.says("Appends a generator node.");
+        for (int kind = INT; kind <= PAIR; kind++) {
+            for (int before = 0; before <= 15; before++) {
+                ChoiceShrink x = Make.tester(1, 8, Make.repeated(before, PAIR, 0), Make.NEVER);
+                x.addGen(kind, 5);
+                Check.due("stat(2) after kind " + kind, before + 1, x.stat(2));
+            }
+        }
+    }
+
+    private static void kindsHaveTheirChildren() {
+        Check.says("G_INT carries a bound b (0..255) and has no children; G_LIST has one child (the element); G_PAIR "
+            + "has two children (first, second).");
+        completesAt(new int[] {INT});
+        completesAt(new int[] {LIST, INT});
+        completesAt(new int[] {PAIR, INT, INT});
+        // Each child is the node that was added for it: a bound of its own shows which one is used.
+        ChoiceShrink element = Make.found(8, new int[][] {{LIST, 0}, {INT, 9}}, Make.NEVER, 1, 255, 0);
+        Check.due("V of a list", "[1, 5]", State.value(element).toString());
+        ChoiceShrink pair = Make.found(8, new int[][] {{PAIR, 0}, {INT, 9}, {INT, 99}}, Make.NEVER, 255, 255);
+        Check.due("V of a pair", "[5, 55]", State.value(pair).toString());
+    }
+
+    /** All generators of up to seven nodes. */
+    private static void countsWhatIsOpen() {
+        Check.says("Keep a count open := 1 before any node; each added node does open := open - 1, then G_LIST adds 1 "
+            + "and G_PAIR adds 2.");
+        for (int number = 0; number < 2187; number++) {
+            ChoiceShrink x = new ChoiceShrink(1, 8);
+            int open = 1;
+            int digits = number;
+            String kinds = "";
+            for (int index = 0; index < 7; index++) {
+                int kind = 1 + digits % 3;
+                digits /= 3;
+                kinds += " " + kind;
+                Check.due("addGen of" + kinds, open == 0 ? -1 : index, x.addGen(kind, 5));
+                if (open == 0) {
+                    break;
+                }
+                open = open - 1 + (kind == LIST ? 1 : 0) + (kind == PAIR ? 2 : 0);
+                Check.due("stat(6) of" + kinds, open == 0 ? 1 : 0, x.stat(6));
+            }
+        }
     }
 
     private static void tellsWhenComplete() {

@@ -17,6 +17,7 @@ public final class AddOpTest {
         keepsTheTargetOfJumps();
         ignoresTheArgOfTheOthers();
         answersTheIndex();
+        appendsOneInstruction();
         changesNothingElse();
         jumpsBeyondTheEndEndNormally();
         jumpsToTheLastInstructionRunIt();
@@ -37,7 +38,7 @@ public final class AddOpTest {
     }
 
     private static void goesOnAfterDiscard() {
-        Check.says("phase is not PH_IDLE (in it again, addOp goes on)");
+        Check.says("phase is not PH_IDLE", "in it again, addOp goes on");
         ChoiceShrink x = Make.found(8, ONE_INT, Make.NEVER, 9);
         Check.due("addOp in PH_FOUND", -1, x.addOp(ChoiceShrink.OP_NOT, 0));
         x.discard();
@@ -59,7 +60,7 @@ public final class AddOpTest {
     }
 
     private static void takesEveryOp() {
-        Check.says("op not in 0..14 (those in it are taken)");
+        Check.says("op not in 0..14", "those in it are taken");
         ChoiceShrink x = new ChoiceShrink(1, 8);
         for (int op = 0; op <= 14; op++) {
             Check.due("addOp(" + op + ", 0)", op, x.addOp(op, 0));
@@ -93,7 +94,7 @@ public final class AddOpTest {
     }
 
     private static void takesAThirtySecondThatCounts() {
-        Check.says("A program of at most 32 instructions (op, arg)");
+        Check.says("Property. A program of at most 32 instructions (op, arg)");
         ChoiceShrink x = Make.tester(1, 8, ONE_INT, Make.NOTHING);
         for (int index = 0; index < 32; index++) {
             Check.due("addOp", index, x.addOp(index == 0 ? ChoiceShrink.OP_PUSH : ChoiceShrink.OP_NOT, 1));
@@ -153,7 +154,7 @@ public final class AddOpTest {
     }
 
     private static void answersTheIndex() {
-        Check.says("the instruction is appended and the answer is its index (0 for the first)");
+        Check.says("Otherwise the instruction is appended and the answer is its index (0 for the first).");
         ChoiceShrink x = new ChoiceShrink(1, 8);
         Check.due("addOp", 0, x.addOp(ChoiceShrink.OP_PUSH, 7));
         Check.due("a refused one takes no index", -1, x.addOp(ChoiceShrink.OP_JMP, 33));
@@ -162,6 +163,17 @@ public final class AddOpTest {
         Check.due("stat(3)", 3, x.stat(3));
         x.addGen(ChoiceShrink.G_INT, 5);
         Check.due("run(1) with 7 on top", 0, x.run(1));
+    }
+
+    private static void appendsOneInstruction() {
+        Check.says("Appends a property instruction.");
+        for (int op = 0; op <= 14; op++) {
+            for (int before = 0; before <= 31; before++) {
+                ChoiceShrink x = Make.tester(1, 8, ONE_INT, Make.repeated(before, ChoiceShrink.OP_PUSH, 1));
+                x.addOp(op, 0);
+                Check.due("stat(3) after op " + op, before + 1, x.stat(3));
+            }
+        }
     }
 
     private static void changesNothingElse() {
@@ -198,7 +210,7 @@ public final class AddOpTest {
     }
 
     private static void jumpsToTheLastInstructionRunIt() {
-        Check.says("A jump target at or beyond the program length (one before it runs the last instruction)");
+        Check.says("A jump target at or beyond the program length", "one before it runs the last instruction");
         for (int length = 4; length <= 32; length++) {
             int[][] jump = withBad(length, new int[][] {{ChoiceShrink.OP_PUSH, 1}, {ChoiceShrink.OP_JMP, length - 1}});
             outcome("JMP to the last of " + length, ChoiceShrink.R_FAILS, jump);
@@ -209,7 +221,7 @@ public final class AddOpTest {
     }
 
     private static void jumpsThatAreNotTakenDoNotEnd() {
-        Check.says("when taken, ends the run normally (not taken, the run goes on)");
+        Check.says("when taken, ends the run normally", "not taken, the run goes on");
         for (int target : new int[] {4, 5, 32}) {
             outcome("JZ " + target + " over 1", ChoiceShrink.R_FAILS, new int[][] {
                 {ChoiceShrink.OP_PUSH, 1}, {ChoiceShrink.OP_PUSH, 1}, {ChoiceShrink.OP_JZ, target},

@@ -9,12 +9,21 @@ final class Check {
     private Check() {
     }
 
-    /** The document's own words that the answers from here on are due to; told with each wrong answer. */
-    static void says(String words) {
+    /**
+     * The document's own words that the answers from here on are due to; told with each wrong answer. DocumentTest
+     * reads them where they stand in the tests' sources, so they are written out there.
+     */
+    static String says(String words) {
         endSentence();
         sentence = words;
         sentences++;
         askedOfSentence = 0;
+        return words;
+    }
+
+    /** The same, with the case of these words that is tested. */
+    static void says(String words, String which) {
+        sentence = says(words) + " (" + which + ")";
     }
 
     static void due(String call, long want, long got) {

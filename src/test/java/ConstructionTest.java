@@ -13,7 +13,8 @@ public final class ConstructionTest {
     }
 
     private static void seedIsClamped() {
-        Check.says("seed is clamped into 0..65535 (below 0 becomes 0, above 65535 becomes 65535)");
+        Check.says("ChoiceShrink(int seed, int cap): seed is clamped into 0..65535 (below 0 becomes 0, above 65535 "
+            + "becomes 65535)");
         seedGives(Make.LEAST, 0);
         seedGives(-65536, 0);
         seedGives(-1, 0);
@@ -77,7 +78,7 @@ public final class ConstructionTest {
     }
 
     private static void capBoundsTheDrawsFromBelow() {
-        Check.says("cap is clamped into 4..32 likewise (a cap below 4 still lets four choices be drawn)");
+        Check.says("cap is clamped into 4..32 likewise", "a cap below 4 still lets four choices be drawn");
         for (int cap : new int[] {Make.LEAST, -1, 0, 3, 4}) {
             Check.due("cap " + cap + ": run with 4 ints", 1,
                 Make.tester(1, cap, Make.ints(4, 255), Make.NEVER).run(16));
@@ -88,7 +89,7 @@ public final class ConstructionTest {
     }
 
     private static void capBoundsTheDrawsFromAbove() {
-        Check.says("cap is clamped into 4..32 likewise (a cap above 32 lets no more than 32 choices be drawn)");
+        Check.says("cap is clamped into 4..32 likewise", "a cap above 32 lets no more than 32 choices be drawn");
         for (int cap : new int[] {32, 33, Make.GREATEST}) {
             Check.due("cap " + cap + ": longest record", 32, longestRecord(cap));
         }

@@ -22,7 +22,7 @@ public final class DiscardTest {
     }
 
     private static void worksOnANewObject() {
-        Check.says("Always works, in every phase. (where nothing is to be cleared)");
+        Check.says("Always works, in every phase.", "where nothing is to be cleared");
         ChoiceShrink x = new ChoiceShrink(7, 8);
         String before = State.everywhere(x);
         x.discard();
@@ -68,21 +68,21 @@ public final class DiscardTest {
     }
 
     private static void clearsTheBufferInIdle() {
-        Check.says("Clears S, O, V, M (in PH_IDLE)");
+        Check.says("Clears S, O, V, M", "in PH_IDLE");
         ChoiceShrink x = Make.fed(8, TWO_INTS, ADDS_UP, 7, 3);
         x.discard();
         isCleared(x);
     }
 
     private static void clearsAFinding() {
-        Check.says("Clears S, O, V, M, trials, accepted and the cursor; phase := PH_IDLE. (NOT STARTED)");
+        Check.says("Clears S, O, V, M, trials, accepted and the cursor; phase := PH_IDLE.", "NOT STARTED");
         ChoiceShrink x = Moment.sevenThree(0);
         x.discard();
         isCleared(x);
     }
 
     private static void clearsAHalfShrunkOne() {
-        Check.says("Clears S, O, V, M, trials, accepted and the cursor; phase := PH_IDLE. (resting before a trial)");
+        Check.says("Clears S, O, V, M, trials, accepted and the cursor; phase := PH_IDLE.", "resting before a trial");
         for (int trials = 1; trials <= 22; trials++) {
             ChoiceShrink x = Moment.sevenThree(trials);
             Check.due("phase() after " + trials + " trials", ChoiceShrink.PH_FOUND, x.phase());
@@ -92,7 +92,7 @@ public final class DiscardTest {
     }
 
     private static void clearsADoneOne() {
-        Check.says("Clears S, O, V, M, trials, accepted and the cursor; phase := PH_IDLE. (PH_DONE)");
+        Check.says("Clears S, O, V, M, trials, accepted and the cursor; phase := PH_IDLE.", "PH_DONE");
         ChoiceShrink x = Moment.sevenThree(23);
         Check.due("phase()", ChoiceShrink.PH_DONE, x.phase());
         x.discard();
@@ -100,7 +100,7 @@ public final class DiscardTest {
     }
 
     private static void clearsAFullBuffer() {
-        Check.says("Clears S, O, V, M (a full M has all its room again)");
+        Check.says("Clears S, O, V, M", "a full M has all its room again");
         for (int cap : new int[] {4, 5, 31, 32}) {
             ChoiceShrink x = Make.fed(cap, TWO_INTS, ADDS_UP, new int[cap]);
             Check.due("pushChoice when full", -1, x.pushChoice(1));
@@ -113,7 +113,7 @@ public final class DiscardTest {
     }
 
     private static void worksTwice() {
-        Check.says("Always works, in every phase. (once more)");
+        Check.says("Always works, in every phase.", "once more");
         ChoiceShrink x = Moment.sevenThree(9);
         x.discard();
         x.discard();
@@ -123,7 +123,7 @@ public final class DiscardTest {
     }
 
     private static void keepsAnIncompleteGenerator() {
-        Check.says("Generator, program, PRNG state and cases are kept. (a generator that is not complete)");
+        Check.says("Generator, program, PRNG state and cases are kept.", "a generator that is not complete");
         ChoiceShrink x = Make.tester(1, 8, new int[][] {{ChoiceShrink.G_PAIR, 0}, {ChoiceShrink.G_INT, 9}}, Make.NEVER);
         x.discard();
         Check.due("stat(2)", 2, x.stat(2));
@@ -136,7 +136,7 @@ public final class DiscardTest {
     }
 
     private static void keepsGeneratorAndProgram() {
-        Check.says("Generator, program, PRNG state and cases are kept. (generator and program)");
+        Check.says("Generator, program, PRNG state and cases are kept.", "generator and program");
         for (int trials = 0; trials <= 23; trials++) {
             ChoiceShrink x = Moment.sevenThree(trials);
             x.discard();
@@ -150,7 +150,7 @@ public final class DiscardTest {
     }
 
     private static void keepsTheRandomStateAndCases() {
-        Check.says("Generator, program, PRNG state and cases are kept. (PRNG state and cases)");
+        Check.says("Generator, program, PRNG state and cases are kept.", "PRNG state and cases");
         ChoiceShrink x = Make.tester(7, 8, TWO_INTS, Make.NEVER);
         Check.due("run(16)", 1, x.run(16));
         int state = x.stat(7);
@@ -167,7 +167,7 @@ public final class DiscardTest {
     }
 
     private static void shrinksAnewAfterwards() {
-        Check.says("Clears ... the cursor; phase := PH_IDLE. (a later finding starts anew)");
+        Check.says("trials, accepted and the cursor; phase := PH_IDLE.", "a later finding starts anew");
         ChoiceShrink x = Moment.sevenThree(9);
         x.discard();
         Make.feed(x, 7, 3);

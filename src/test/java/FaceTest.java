@@ -1,103 +1,103 @@
+import java.io.IOException;
 import java.lang.reflect.Constructor;
 import java.lang.reflect.Field;
+import java.lang.reflect.Member;
 import java.lang.reflect.Method;
 import java.lang.reflect.Modifier;
 import java.util.ArrayList;
-import java.util.Arrays;
-import java.util.HashSet;
+import java.util.Collections;
 import java.util.List;
-import java.util.Set;
-import java.util.TreeSet;
+import java.util.regex.Matcher;
+import java.util.regex.Pattern;
 
-/** The document's public face, and the rules of LANGUAGE.md that can be seen from the compiled class. */
+/** "The public face" and "Public constants": what others can see of the class is this and nothing beside it. */
 public final class FaceTest {
-    private static final Class<?> FACE = ChoiceShrink.class;
-    private static final String MODIFIERS = "public static final int ";
+    private static final Class<?> SEEN = ChoiceShrink.class;
+    private static final Pattern CONSTANT = Pattern.compile("(\\w+) = (\\d+)");
 
-    public static void main(String[] args) throws IllegalAccessException {
-        theClass();
-        theConstants();
-        theConstructor();
-        theMethods();
-        theFields();
+    public static void main(String[] args) throws IOException, ReflectiveOperationException {
+        theFaceIsTheDocuments();
+        nothingIsInherited();
+        theConstantsHaveTheirValues();
         Check.end("FaceTest");
     }
 
-    private static void theClass() {
-        Check.due("modifiers of the class", "public final", Modifier.toString(FACE.getModifiers()));
-        Check.due("superclass", "java.lang.Object", FACE.getSuperclass().getName());
-        Check.due("package", "", FACE.getPackageName());
-        Check.due("interfaces", 0, FACE.getInterfaces().length);
-        Check.due("nested classes", 0, FACE.getDeclaredClasses().length);
-    }
-
-    private static void theConstants() throws IllegalAccessException {
-        Set<String> due = new TreeSet<>();
-        number(due, 0, "PH_IDLE", "PH_FOUND", "PH_DONE");
-        number(due, 0, "R_HOLDS", "R_FAILS", "R_INVALID");
-        number(due, 1, "G_INT", "G_LIST", "G_PAIR");
-        number(due, 0, "OP_PUSH", "OP_VAL", "OP_LEN", "OP_ADD", "OP_SUB", "OP_MUL", "OP_LT", "OP_EQ", "OP_NOT",
-            "OP_DUP", "OP_SWAP", "OP_DROP", "OP_OVER", "OP_JZ", "OP_JMP");
-        Set<String> got = new TreeSet<>();
-        for (Field field : FACE.getDeclaredFields()) {
-            if (!Modifier.isPrivate(field.getModifiers())) {
-                got.add(Modifier.toString(field.getModifiers()) + " " + field.getType() + " " + field.getName()
-                    + " = " + field.getInt(null));
+    /** The class, 24 constants, the constructor and 16 methods. */
+    private static void theFaceIsTheDocuments() throws IOException, IllegalAccessException {
+        List<String> due = new ArrayList<>();
+        for (String line : Document.face()) {
+            if (!line.equals("}")) {
+                due.add(withoutNames(line));
             }
         }
-        Check.due("fields that others can see", due.toString(), got.toString());
+        Check.due("lines of the document's face", 42, due.size());
+        List<String> got = seen();
+        Collections.sort(due);
+        Collections.sort(got);
+        Check.due("the face", String.join("\n", due), String.join("\n", got));
     }
 
-    private static void number(Set<String> due, int first, String... names) {
-        for (int at = 0; at < names.length; at++) {
-            due.add(MODIFIERS + names[at] + " = " + (first + at));
-        }
+    /** Without the names of parameters, which the compiled class does not tell. */
+    private static String withoutNames(String line) {
+        return line.replaceAll("[;{]$", "").strip().replaceAll("(int|long|boolean) \\w+(?=[,)])", "$1")
+            .replace(", ", ",");
     }
 
-    private static void theConstructor() {
-        List<String> got = new ArrayList<>();
-        for (Constructor<?> constructor : FACE.getDeclaredConstructors()) {
-            got.add(constructor.toString());
-        }
-        Check.due("constructors", "[public ChoiceShrink(int,int)]", got.toString());
-    }
-
-    private static void theMethods() {
-        Set<String> due = new TreeSet<>(Arrays.asList(
-            "int addGen(int,int)", "int addOp(int,int)", "int pushChoice(int)", "int replay()", "int run(int)",
-            "int shrink(int)", "void discard()", "int phase()", "int seqLength()", "int choiceAt(int)",
-            "int origLength()", "int origChoiceAt(int)", "int valueLength()", "int valueAt(int)", "int stat(int)",
-            "int cursor(int)"));
-        Set<String> got = new TreeSet<>();
-        Set<String> seenNames = new HashSet<>();
-        Set<String> privateNames = new HashSet<>();
-        for (Method method : FACE.getDeclaredMethods()) {
-            boolean hidden = Modifier.isPrivate(method.getModifiers());
-            (hidden ? privateNames : seenNames).add(method.getName());
-            if (!hidden) {
-                got.add(method.toString().replace("ChoiceShrink.", "").replace("public ", ""));
+    private static List<String> seen() throws IllegalAccessException {
+        List<String> lines = new ArrayList<>();
+        lines.add(Modifier.toString(SEEN.getModifiers()) + " class " + SEEN.getName());
+        for (Field field : SEEN.getDeclaredFields()) {
+            if (isSeen(field)) {
+                String value = Modifier.isStatic(field.getModifiers()) ? " = " + field.get(null) : "";
+                lines.add(withoutClass(field) + value);
             }
-            Check.due("parameters of " + method.getName(), 1, method.getParameterCount() <= 7 ? 1 : 0);
         }
-        Check.due("methods that others can see", due.toString(), got.toString());
-        privateNames.retainAll(seenNames);
-        Check.due("private methods with a public name", "[]", privateNames.toString());
+        for (Constructor<?> constructor : SEEN.getDeclaredConstructors()) {
+            if (isSeen(constructor)) {
+                lines.add(constructor.toString());
+            }
+        }
+        for (Method method : SEEN.getDeclaredMethods()) {
+            if (isSeen(method)) {
+                lines.add(withoutClass(method));
+            }
+        }
+        return lines;
     }
 
-    private static void theFields() {
-        int fields = 0;
-        for (Field field : FACE.getDeclaredFields()) {
-            Class<?> type = field.getType();
-            boolean isStatic = Modifier.isStatic(field.getModifiers());
-            Class<?> number = type.isArray() && !isStatic ? type.getComponentType() : type;
-            boolean whole = number.isPrimitive() && number != float.class && number != double.class;
-            Check.due("type of " + field.getName(), 1, whole ? 1 : 0);
-            Check.due("a static field is a constant: " + field.getName(), 1,
-                !isStatic || Modifier.isFinal(field.getModifiers()) ? 1 : 0);
-            Check.due("an array field is final: " + field.getName(), 1,
-                !type.isArray() || Modifier.isFinal(field.getModifiers()) ? 1 : 0);
-            fields += isStatic ? 0 : 1;
+    private static boolean isSeen(Member member) {
+        return !Modifier.isPrivate(member.getModifiers());
+    }
+
+    private static String withoutClass(Member member) {
+        return member.toString().replace(SEEN.getName() + ".", "");
+    }
+
+    private static void nothingIsInherited() {
+        Check.due("superclass", "java.lang.Object", SEEN.getSuperclass().getName());
+        Check.due("interfaces", 0, SEEN.getInterfaces().length);
+        Check.due("nested classes", 0, SEEN.getDeclaredClasses().length);
+        Check.due("package", "", SEEN.getPackageName());
+        Check.due("type parameters", 0, SEEN.getTypeParameters().length);
+    }
+
+    private static void theConstantsHaveTheirValues() throws ReflectiveOperationException {
+        constants(3, Check.says("Public constants: Phases: PH_IDLE = 0, PH_FOUND = 1, PH_DONE = 2."));
+        constants(3, Check.says("Outcomes: R_HOLDS = 0, R_FAILS = 1, R_INVALID = 2."));
+        constants(3, Check.says("Generator node kinds: G_INT = 1, G_LIST = 2, G_PAIR = 3."));
+        constants(15, Check.says("Instructions: OP_PUSH = 0, OP_VAL = 1, OP_LEN = 2, OP_ADD = 3, OP_SUB = 4, OP_MUL = "
+            + "5, OP_LT = 6, OP_EQ = 7, OP_NOT = 8, OP_DUP = 9, OP_SWAP = 10, OP_DROP = 11, OP_OVER = 12, OP_JZ = 13, "
+            + "OP_JMP = 14."));
+    }
+
+    private static void constants(int count, String words) throws ReflectiveOperationException {
+        Matcher constant = CONSTANT.matcher(words);
+        int found = 0;
+        while (constant.find()) {
+            String name = constant.group(1);
+            Check.due(name, constant.group(2), String.valueOf(SEEN.getField(name).get(null)));
+            found++;
         }
-        Check.due("some forty fields at most", 1, fields <= 42 ? 1 : 0);
+        Check.due("constants told there", count, found);
     }
 }

@@ -13,6 +13,7 @@ public final class GenerationTest {
     private static final int[][] LIST_OF_LIST = {{LIST, 0}, {LIST, 0}, {INT, 255}};
 
     public static void main(String[] args) {
+        choicesAreInts();
         sequencesOfUpToCap();
         intsAreTheRemainder();
         intsOfTheLeastAndTheGreatestBound();
@@ -32,6 +33,23 @@ public final class GenerationTest {
         takesYieldTheChoicesInTurn();
         unusedChoicesAreNotConsumed();
         Check.end("GenerationTest");
+    }
+
+    private static void choicesAreInts() {
+        Check.says("Choices and order. A choice is an int 0..255.");
+        for (int choice = 0; choice <= 255; choice++) {
+            gives(Make.ints(1, 255), "[" + choice + "]", "[" + choice + "]", choice);
+        }
+        for (int seed = 0; seed < 300; seed++) {
+            ChoiceShrink x = Make.tester(seed, 32, LIST_THEN_INT, Make.NEVER);
+            x.run(1);
+            for (int choice : State.sequence(x)) {
+                Check.due("a drawn choice, " + choice, 1, choice >= 0 && choice <= 255 ? 1 : 0);
+            }
+        }
+        ChoiceShrink x = new ChoiceShrink(1, 8);
+        Check.due("pushChoice(-1)", -1, x.pushChoice(-1));
+        Check.due("pushChoice(256)", -1, x.pushChoice(256));
     }
 
     private static void sequencesOfUpToCap() {
@@ -65,7 +83,7 @@ public final class GenerationTest {
     }
 
     private static void intsOfTheLeastAndTheGreatestBound() {
-        Check.says("G_INT carries a bound b (0..255) and has no children");
+        Check.says("G_INT carries a bound b (0..255)");
         gives(new int[][] {{INT, 0}}, "[0]", "[0]", 0);
         gives(new int[][] {{INT, 0}}, "[1]", "[0]", 1);
         gives(new int[][] {{INT, 0}}, "[255]", "[0]", 255);
@@ -91,14 +109,14 @@ public final class GenerationTest {
     }
 
     private static void anyOtherChoiceGoesOn() {
-        Check.says("if c = 0, stop (any other choice goes on)");
+        Check.says("if c = 0, stop", "any other choice goes on");
         for (int choice = 1; choice <= 255; choice++) {
             gives(LIST_OF_INT, "[" + choice + ", 5, 0]", "[1, 5]", choice, 5, 0);
         }
     }
 
     private static void eightElementsStopAList() {
-        Check.says("if m = 8, stop (no choice taken)");
+        Check.says("m := 0; repeat: if m = 8, stop (no choice taken)");
         gives(LIST_OF_INT, "[1, 1, 1, 2, 1, 3, 1, 4, 1, 5, 1, 6, 1, 7, 1, 8]", "[8, 1, 2, 3, 4, 5, 6, 7, 8]",
             1, 1, 1, 2, 1, 3, 1, 4, 1, 5, 1, 6, 1, 7, 1, 8);
         gives(LIST_OF_INT, "[1, 1, 1, 2, 1, 3, 1, 4, 1, 5, 1, 6, 1, 7, 1, 8]", "[8, 1, 2, 3, 4, 5, 6, 7, 8]",
@@ -109,7 +127,7 @@ public final class GenerationTest {
     }
 
     private static void sevenElementsDoNot() {
-        Check.says("if m = 8, stop (with one less a choice is taken)");
+        Check.says("if m = 8, stop", "with one less a choice is taken");
         gives(LIST_THEN_INT, "[1, 1, 1, 2, 1, 3, 1, 4, 1, 5, 1, 6, 1, 7, 0, 99]",
             "[7, 1, 2, 3, 4, 5, 6, 7, 99]", 1, 1, 1, 2, 1, 3, 1, 4, 1, 5, 1, 6, 1, 7, 0, 99);
         isInvalid(LIST_OF_INT, 1, 1, 1, 2, 1, 3, 1, 4, 1, 5, 1, 6, 1, 7);
@@ -117,7 +135,7 @@ public final class GenerationTest {
     }
 
     private static void everyLengthIsWritten() {
-        Check.says("On stop, cell q := m.");
+        Check.says("gen(element); m := m+1. On stop, cell q := m.");
         for (int length = 0; length <= 8; length++) {
             List<Integer> choices = new ArrayList<>();
             List<Integer> value = new ArrayList<>(List.of(length));
@@ -134,7 +152,7 @@ public final class GenerationTest {
     }
 
     private static void eightElementsStopAnInnerList() {
-        Check.says("if m = 8, stop (no choice taken) (an inner list: the next choice is the outer one's)");
+        Check.says("if m = 8, stop (no choice taken)", "an inner list: the next choice is the outer one's");
         gives(LIST_OF_LIST, "[1, 1, 1, 1, 2, 1, 3, 1, 4, 1, 5, 1, 6, 1, 7, 1, 8, 0]",
             "[1, 8, 1, 2, 3, 4, 5, 6, 7, 8]", 1, 1, 1, 1, 2, 1, 3, 1, 4, 1, 5, 1, 6, 1, 7, 1, 8, 0, 1);
         gives(LIST_OF_LIST, "[1, 1, 1, 1, 2, 1, 3, 1, 4, 1, 5, 1, 6, 1, 7, 1, 8, 1, 0, 0]",
@@ -142,7 +160,7 @@ public final class GenerationTest {
     }
 
     private static void eightEmptyListsStopAnOuterList() {
-        Check.says("if m = 8, stop (no choice taken) (an outer list of empty ones)");
+        Check.says("if m = 8, stop (no choice taken)", "an outer list of empty ones");
         gives(LIST_OF_LIST, "[1, 0, 1, 0, 1, 0, 1, 0, 1, 0, 1, 0, 1, 0, 1, 0]", "[8, 0, 0, 0, 0, 0, 0, 0, 0]",
             1, 0, 1, 0, 1, 0, 1, 0, 1, 0, 1, 0, 1, 0, 1, 0, 1, 0);
     }
@@ -190,7 +208,7 @@ public final class GenerationTest {
     }
 
     private static void anEmptySequenceIsInvalid() {
-        Check.says("a take when len(C) choices have already been taken fails (the first, when there is none)");
+        Check.says("a take when len(C) choices have already been taken fails", "the first, when there is none");
         isInvalid(Make.ints(1, 0));
         isInvalid(LIST_OF_INT);
         isInvalid(Make.ints(2, 255));
@@ -198,7 +216,7 @@ public final class GenerationTest {
 
     /** No generator of 16 nodes gives more than 27 cells from 32 choices, so a 33rd cell is never come to. */
     private static void theLongestValue() {
-        Check.says("Generation from a source of choices gives a VALUE: a list of at most 32 int cells.");
+        Check.says("Generation. Generation from a source of choices gives a VALUE: a list of at most 32 int cells.");
         int[][] gen = Make.joined(new int[][] {{PAIR, 0}, {LIST, 0}}, Make.ints(5, 255), Make.ints(1, 255));
         List<Integer> choices = new ArrayList<>();
         List<Integer> value = new ArrayList<>(List.of(5));
@@ -221,7 +239,7 @@ public final class GenerationTest {
     }
 
     private static void takesYieldTheChoicesInTurn() {
-        Check.says("the j-th take (counting from 0) yields C[j]");
+        Check.says("Replay of a sequence C: the j-th take (counting from 0) yields C[j]");
         gives(Make.ints(8, 255), "[8, 7, 6, 5, 4, 3, 2, 1]", "[8, 7, 6, 5, 4, 3, 2, 1]", 8, 7, 6, 5, 4, 3, 2, 1);
     }
 

@@ -29,6 +29,8 @@ public final class PropertyTest {
         stopsAt256Steps();
         theEndComesBeforeTheStepLimit();
         everyRunCountsItsOwnSteps();
+        everyInstructionIsOneStep();
+        theStackHolds16Cells();
         poppingAnEmptyStackFails();
         poppingTheSecondOfOneFails();
         needsFail();
@@ -36,6 +38,7 @@ public final class PropertyTest {
         fullStackStillWorks();
         failureComesAtOnce();
         binaryOrder();
+        arithmetic();
         arithmeticWraps();
         pushAnyInt();
         valInsideAndOutside();
@@ -53,7 +56,7 @@ public final class PropertyTest {
     }
 
     private static void stopsNormallyAtTheEnd() {
-        Check.says("if pc >= program length, stop normally");
+        Check.says("Loop: if pc >= program length, stop normally");
         outcome(HOLDS, PUSH, 1);
         outcome(HOLDS, PUSH, 1, JMP, 2);
         outcome(HOLDS, PUSH, 1, JMP, 3);
@@ -76,7 +79,7 @@ public final class PropertyTest {
     }
 
     private static void theEndComesBeforeTheStepLimit() {
-        Check.says("if pc >= program length, stop normally; if steps = 256, stop with failure (in this order)");
+        Check.says("if pc >= program length, stop normally; if steps = 256, stop with failure", "in this order");
         // The 256th step is the last instruction, a jump behind the end, a branch behind the end.
         outcome(HOLDS, countdown(50, 5, DROP, 0));
         outcome(HOLDS, countdown(50, 5, DROP, 0, JMP, 32));
@@ -113,8 +116,42 @@ public final class PropertyTest {
         }
     }
 
+    /** The countdown's 251 steps leave 0 above 1; with five steps more the run just ends. */
+    private static void everyInstructionIsOneStep() {
+        Check.says("steps := steps+1; execute instruction pc, then pc := pc+1 unless it jumped.");
+        int[][] behind = {
+            {PUSH, 7}, {VAL, 0}, {LEN, 0}, {ADD, 0}, {SUB, 0}, {MUL, 0, NOT, 0}, {LT, 0, NOT, 0}, {EQ, 0, NOT, 0},
+            {NOT, 0}, {DUP, 0, DROP, 0, DROP, 0}, {SWAP, 0}, {DROP, 0}, {OVER, 0}, {JZ, 32}, {NOT, 0, JZ, 0},
+            {DROP, 0, JMP, 32}};
+        for (int[] instructions : behind) {
+            outcome(HOLDS, countdown(50, 5, instructions));
+            outcome(FAILS, countdown(50, 6, instructions));
+        }
+        // In turn: what comes later is on top.
+        leaves(7, PUSH, 5, PUSH, 6, PUSH, 7);
+        leaves(3, PUSH, 5, PUSH, 6, DROP, 0, PUSH, 2, SUB, 0);
+    }
+
+    private static void theStackHolds16Cells() {
+        Check.says("run on a value V of L cells with an int stack of at most 16 cells");
+        // Sixteen cells that are added up: 1 to 15, and what makes the sum 0 or not.
+        for (int last : new int[] {-121, -120, -119, 0, GREATEST}) {
+            int[] program = new int[62];
+            for (int cell = 0; cell < 16; cell++) {
+                program[2 * cell] = PUSH;
+                program[2 * cell + 1] = cell < 15 ? cell + 1 : last;
+            }
+            for (int sum = 16; sum < 31; sum++) {
+                program[2 * sum] = ADD;
+            }
+            outcome(last == -120 ? FAILS : HOLDS, program);
+        }
+        outcome(HOLDS, pushed(16));
+        outcome(FAILS, pushed(17));
+    }
+
     private static void poppingAnEmptyStackFails() {
-        Check.says("Popping an empty stack or pushing onto 16 cells stops with failure at once. (popping)");
+        Check.says("Popping an empty stack or pushing onto 16 cells stops with failure at once.", "popping");
         for (int op : new int[] {VAL, NOT, DROP, JZ, ADD, SUB, MUL, LT, EQ}) {
             outcome(FAILS, op, 1);
             outcome(FAILS, op, 1, PUSH, 1);
@@ -126,7 +163,7 @@ public final class PropertyTest {
     }
 
     private static void poppingTheSecondOfOneFails() {
-        Check.says("Binary ops pop b (top) then a (of one cell: popping an empty stack)");
+        Check.says("Binary ops pop b (top) then a", "of one cell: popping an empty stack");
         for (int op : new int[] {ADD, SUB, MUL, LT, EQ}) {
             outcome(FAILS, PUSH, 1, op, 0);
             outcome(FAILS, PUSH, 1, op, 0, PUSH, 1);
@@ -152,7 +189,7 @@ public final class PropertyTest {
     }
 
     private static void pushingOnto16CellsFails() {
-        Check.says("Popping an empty stack or pushing onto 16 cells stops with failure at once. (pushing)");
+        Check.says("Popping an empty stack or pushing onto 16 cells stops with failure at once.", "pushing");
         for (int op : new int[] {PUSH, LEN, DUP, OVER}) {
             outcome(HOLDS, pushed(14, op, 1));
             outcome(HOLDS, pushed(15, op, 1));
@@ -164,7 +201,7 @@ public final class PropertyTest {
     }
 
     private static void fullStackStillWorks() {
-        Check.says("pushing onto 16 cells (an op that pops first has room)");
+        Check.says("pushing onto 16 cells", "an op that pops first has room");
         for (int op : new int[] {VAL, NOT, DROP, SWAP, ADD, SUB, MUL, LT, EQ, JZ}) {
             outcome(HOLDS, pushed(16, op, 18, DROP, 0, PUSH, 1));
         }
@@ -175,7 +212,7 @@ public final class PropertyTest {
     }
 
     private static void failureComesAtOnce() {
-        Check.says("stops with failure at once (whatever is on top, and whatever comes behind)");
+        Check.says("stops with failure at once", "whatever is on top, and whatever comes behind");
         outcome(FAILS, ADD, 0, PUSH, 1, PUSH, 1);
         outcome(FAILS, PUSH, 5, ADD, 0, PUSH, 1, JMP, 32);
         outcome(FAILS, PUSH, 5, SWAP, 0, JMP, 32);
@@ -184,15 +221,25 @@ public final class PropertyTest {
 
     private static void binaryOrder() {
         Check.says("Binary ops pop b (top) then a and push (a op b)");
-        leaves(12, PUSH, 7, PUSH, 5, ADD, 0);
         leaves(2, PUSH, 7, PUSH, 5, SUB, 0);
         leaves(-2, PUSH, 5, PUSH, 7, SUB, 0);
-        leaves(35, PUSH, 7, PUSH, 5, MUL, 0);
-        leaves(-35, PUSH, 7, PUSH, -5, MUL, 0);
         leaves(1, PUSH, 5, PUSH, 7, LT, 0);
         leaves(0, PUSH, 7, PUSH, 5, LT, 0);
         leaves(4, PUSH, 10, PUSH, 7, PUSH, 1, SUB, 0, SUB, 0);
         leaves(9, PUSH, 9, PUSH, 5, PUSH, 7, ADD, 0, DROP, 0);
+    }
+
+    private static void arithmetic() {
+        Check.says("OP_ADD a+b. OP_SUB a-b. OP_MUL a*b.");
+        leaves(12, PUSH, 7, PUSH, 5, ADD, 0);
+        leaves(-2, PUSH, -7, PUSH, 5, ADD, 0);
+        leaves(2, PUSH, 7, PUSH, 5, SUB, 0);
+        leaves(12, PUSH, 7, PUSH, -5, SUB, 0);
+        leaves(-12, PUSH, -7, PUSH, 5, SUB, 0);
+        leaves(35, PUSH, 7, PUSH, 5, MUL, 0);
+        leaves(-35, PUSH, 7, PUSH, -5, MUL, 0);
+        leaves(35, PUSH, -7, PUSH, -5, MUL, 0);
+        leaves(0, PUSH, 7, PUSH, 0, MUL, 0);
     }
 
     private static void arithmeticWraps() {
@@ -243,7 +290,7 @@ public final class PropertyTest {
     }
 
     private static void valAndLenOfShortAndLongValues() {
-        Check.says("push V[i] if 0 <= i < L, else 0. OP_LEN: push L. (the shortest and the longest value)");
+        Check.says("push V[i] if 0 <= i < L, else 0. OP_LEN: push L.", "the shortest and the longest value");
         lengthAndLast(1, 0, Make.LIST_OF_INT, 0);
         lengthAndLast(1, 200, Make.ints(1, 255), 200);
         int[][] gen = Make.joined(new int[][] {{ChoiceShrink.G_PAIR, 0}, {ChoiceShrink.G_LIST, 0}},
@@ -266,7 +313,7 @@ public final class PropertyTest {
     }
 
     private static void valForgetsALongerValue() {
-        Check.says("push V[i] if 0 <= i < L, else 0 (where a longer value stood before)");
+        Check.says("push V[i] if 0 <= i < L, else 0", "where a longer value stood before");
         ChoiceShrink x = Make.tester(1, 32, Make.LIST_OF_INT, Make.program(PUSH, 2, VAL, 0));
         Make.feed(x, 1, 8, 1, 9, 0);
         Check.due("V[2] of two elements", HOLDS, x.replay());
@@ -288,7 +335,7 @@ public final class PropertyTest {
     }
 
     private static void comparisonsOfLeastAndGreatest() {
-        Check.says("OP_LT 1 if a<b else 0. OP_EQ 1 if a==b else 0. (the least and the greatest int)");
+        Check.says("OP_LT 1 if a<b else 0. OP_EQ 1 if a==b else 0.", "the least and the greatest int");
         leaves(1, PUSH, LEAST, PUSH, GREATEST, LT, 0);
         leaves(0, PUSH, GREATEST, PUSH, LEAST, LT, 0);
         leaves(1, PUSH, LEAST, PUSH, LEAST + 1, LT, 0);
@@ -358,7 +405,7 @@ public final class PropertyTest {
     }
 
     private static void emptyStackAtTheEndFails() {
-        Check.says("with a non-empty stack whose top is not 0; otherwise it FAILS (an empty stack)");
+        Check.says("with a non-empty stack whose top is not 0; otherwise it FAILS", "an empty stack");
         outcome(FAILS, JMP, 1);
         outcome(FAILS, PUSH, 1, DROP, 0);
         outcome(FAILS, PUSH, 1, JZ, 2);

@@ -40,7 +40,7 @@ public final class PushChoiceTest {
     }
 
     private static void takesTheLeastAndTheGreatest() {
-        Check.says("c is not in 0..255 (those in it are taken)");
+        Check.says("c is not in 0..255", "those in it are taken");
         for (int c : new int[] {0, 1, 127, 128, 254, 255}) {
             ChoiceShrink x = Make.tester(1, 8, Make.ints(1, 255), Make.NEVER);
             Check.due("pushChoice(" + c + ")", 1, x.pushChoice(c));
@@ -73,7 +73,7 @@ public final class PushChoiceTest {
     }
 
     private static void refusesWhenFullInEveryPhase() {
-        Check.says("M already holds cap choices (in every phase)");
+        Check.says("M already holds cap choices", "in every phase");
         for (int trials : new int[] {0, 1, 3, 7, 11, 12, 22, 23}) {
             Supplier<ChoiceShrink> full = () -> {
                 ChoiceShrink x = Moment.sevenThree(trials);

@@ -56,7 +56,7 @@ public final class ReadersTest {
     }
 
     private static void emptyInIdle() {
-        Check.says("(0 in PH_IDLE) ... (so always -1 in PH_IDLE)");
+        Check.says("(so always -1 in PH_IDLE).");
         for (Supplier<ChoiceShrink> made : Moment.idle().values()) {
             ChoiceShrink x = made.get();
             readsExactly("choiceAt", x::choiceAt, x.seqLength());
@@ -118,7 +118,7 @@ public final class ReadersTest {
     }
 
     private static void sequencesOfOne() {
-        Check.says("if i is not in 0..len(S)-1 (one choice, the fewest that a counterexample has)");
+        Check.says("if i is not in 0..len(S)-1", "one choice, the fewest that a counterexample has");
         ChoiceShrink x = Make.found(8, Make.LIST_OF_INT, Make.NEVER, 0, 9, 9);
         readsExactly("choiceAt", x::choiceAt, x.seqLength(), 0);
         readsExactly("origChoiceAt", x::origChoiceAt, x.origLength(), 0);
@@ -126,7 +126,7 @@ public final class ReadersTest {
     }
 
     private static void sequencesOfTheGreatestLength() {
-        Check.says("if i is not in 0..len(S)-1 (32 choices, the most that a counterexample has)");
+        Check.says("if i is not in 0..len(S)-1", "32 choices, the most that a counterexample has");
         int[] choices = new int[32];
         int[] cells = new int[25];
         cells[0] = 8;
@@ -188,7 +188,7 @@ public final class ReadersTest {
     }
 
     private static void otherStatsAreZero() {
-        Check.says("Any other what answers 0. (stat)");
+        Check.says("Any other what answers 0.", "stat");
         for (Supplier<ChoiceShrink> made : everyMoment()) {
             ChoiceShrink x = made.get();
             for (int what : new int[] {Make.LEAST, -8, -7, -1, 8, 9, 32, 256, 263, Make.GREATEST}) {
@@ -210,7 +210,7 @@ public final class ReadersTest {
     }
 
     private static void otherCursorsAreZero() {
-        Check.says("Any other what answers 0. (cursor)");
+        Check.says("Any other what answers 0.", "cursor");
         for (Supplier<ChoiceShrink> made : everyMoment()) {
             ChoiceShrink x = made.get();
             for (int what : new int[] {Make.LEAST, -6, -5, -1, 6, 7, 32, 256, 261, Make.GREATEST}) {
@@ -238,8 +238,9 @@ public final class ReadersTest {
     }
 
     private static void cursorHasNoBoundsOutsidePass3() {
-        Check.says("k (in pass 1 or 2 the block size; in passes 3 and 4 it is 1); i; lo and hi (in pass 3 the current "
-            + "bounds; in other passes 0); improved.");
+        Check.says("Cursor. While resting before a trial, the cursor holds: pass (1..4); k (in pass 1 or 2 the block "
+            + "size; in passes 3 and 4 it is 1); i; lo and hi (in pass 3 the current bounds; in other passes 0); "
+            + "improved.");
         restsAt(1, 1, 1, 0, 0);
         restsAt(3, 2, 2, 0, 0);
         restsAt(4, 2, 1, 0, 0);
@@ -258,7 +259,7 @@ public final class ReadersTest {
     }
 
     private static void readingChangesNothing() {
-        Check.says("No change. (every reader)");
+        Check.says("No change.", "every reader");
         for (Supplier<ChoiceShrink> made : everyMoment()) {
             ChoiceShrink x = made.get();
             String before = State.everywhere(x);

@@ -88,8 +88,7 @@ public final class RefusalTest {
 
     private static void inIdle() {
         Check.says("Refused (-1, no change) if phase is not PH_IDLE, the generator is not complete, or the program is "
-            + "empty. / Refused (-1, no change) if phase is not PH_FOUND. / generator complete; 16 nodes present. / "
-            + "32 instructions present. / M already holds cap choices.");
+            + "empty.", "with all that the other methods refuse in PH_IDLE");
         Map<String, Supplier<ChoiceShrink>> idle = Moment.idle();
         refuses("new", idle, "replay", "run", "shrink");
         refuses("without a generator", idle, "replay", "run", "shrink");
@@ -106,7 +105,7 @@ public final class RefusalTest {
     }
 
     private static void inFound() {
-        Check.says("phase is not PH_IDLE (addGen, addOp, replay, run)");
+        Check.says("phase is not PH_IDLE", "addGen, addOp, replay, run");
         Map<String, Supplier<ChoiceShrink>> found = Moment.found();
         for (String moment : found.keySet()) {
             if (moment.equals("found, with a full buffer")) {
@@ -118,7 +117,7 @@ public final class RefusalTest {
     }
 
     private static void inDone() {
-        Check.says("phase is not PH_IDLE (addGen, addOp, replay, run) / phase is not PH_FOUND (shrink)");
+        Check.says("Refused (-1, no change) if phase is not PH_FOUND.", "shrink; all but pushChoice for not PH_IDLE");
         Map<String, Supplier<ChoiceShrink>> done = Moment.done();
         refuses("done", done, "addGen", "addOp", "replay", "run", "shrink");
         refuses("done, with a full buffer", done, "addGen", "addOp", "pushChoice", "replay", "run", "shrink");
@@ -140,8 +139,8 @@ public final class RefusalTest {
     }
 
     private static void wrongArgumentsAtEveryMoment() {
-        Check.says("kind not in 1..3; kind is G_INT and bound not in 0..255 / op not in 0..14; op is OP_JZ or OP_JMP "
-            + "and arg not in 0..32 / c is not in 0..255");
+        Check.says("kind not in 1..3; kind is G_INT and bound not in 0..255",
+            "with the wrong arguments of addOp and pushChoice");
         for (Map<String, Supplier<ChoiceShrink>> made : List.of(Moment.idle(), Moment.found(), Moment.done())) {
             made.forEach((moment, maker) ->
                 WRONG.forEach((call, asked) -> Refused.due(moment + ": " + call, maker, asked)));

@@ -15,6 +15,7 @@ public final class ReplayTest {
         refusesAnEmptyProgram();
         takesTheLeastThatIsReady();
         answersTheOutcome();
+        invalidComesBeforeTheProperty();
         findsTheConsumedPrefix();
         findsAsLongAsCap();
         findsAsShortAsOne();
@@ -26,7 +27,7 @@ public final class ReplayTest {
     }
 
     private static void refusesOutsideIdle() {
-        Check.says("Refused (-1, no change) if phase is not PH_IDLE");
+        Check.says("Replays M. Refused (-1, no change) if phase is not PH_IDLE");
         Moment.found().values().forEach(ReplayTest::refuses);
         Moment.done().values().forEach(ReplayTest::refuses);
     }
@@ -50,7 +51,7 @@ public final class ReplayTest {
     }
 
     private static void takesTheLeastThatIsReady() {
-        Check.says("the generator is not complete, or the program is empty (one node and one instruction are enough)");
+        Check.says("the generator is not complete, or the program is empty", "one node and one instruction are enough");
         Check.due("replay()", ChoiceShrink.R_FAILS, Make.fed(4, Make.ints(1, 0), Make.NEVER, 0).replay());
         Check.due("replay()", ChoiceShrink.R_HOLDS, Make.fed(4, Make.ints(1, 0), Make.ALWAYS, 0).replay());
         ChoiceShrink x = Make.fed(4, new int[][] {{PAIR, 0}, {INT, 5}}, Make.NEVER, 1, 2);
@@ -67,9 +68,17 @@ public final class ReplayTest {
         Check.due("replay of 7", ChoiceShrink.R_INVALID, Make.fed(8, TWO_INTS, ADDS_UP, 7).replay());
         Check.due("replay of nothing", ChoiceShrink.R_INVALID, Make.fed(8, TWO_INTS, ADDS_UP).replay());
         Check.due("replay of 7, 3, 1", ChoiceShrink.R_FAILS, Make.fed(8, TWO_INTS, ADDS_UP, 7, 3, 1).replay());
-        // Invalid comes before the property: this one would hold, that one would fail.
+    }
+
+    private static void invalidComesBeforeTheProperty() {
+        Check.says("Outcome of a sequence C: R_INVALID if its replay generation is invalid; else R_FAILS or R_HOLDS by "
+            + "running the property on the generated value.");
         Check.due("replay of 7", ChoiceShrink.R_INVALID, Make.fed(8, TWO_INTS, Make.ALWAYS, 7).replay());
         Check.due("replay of 7", ChoiceShrink.R_INVALID, Make.fed(8, TWO_INTS, Make.NEVER, 7).replay());
+        Check.due("replay of 7, 3", ChoiceShrink.R_HOLDS, Make.fed(8, TWO_INTS, Make.ALWAYS, 7, 3).replay());
+        Check.due("replay of 7, 3", ChoiceShrink.R_FAILS, Make.fed(8, TWO_INTS, Make.NEVER, 7, 3).replay());
+        // On the value, not on the choices: 17 and 13 are 7 and 3 here.
+        Check.due("replay of 17, 13", ChoiceShrink.R_FAILS, Make.fed(8, Make.ints(2, 9), ADDS_UP, 17, 13).replay());
     }
 
     private static void findsTheConsumedPrefix() {
@@ -88,7 +97,7 @@ public final class ReplayTest {
     }
 
     private static void findsAsLongAsCap() {
-        Check.says("On R_FAILS the consumed prefix of M is FOUND (all of a full M)");
+        Check.says("On R_FAILS the consumed prefix of M is FOUND", "all of a full M");
         ChoiceShrink x = Make.tester(1, 32, Make.LIST_OF_THREE, Make.NEVER);
         for (int element = 0; element < 8; element++) {
             Make.feed(x, 255, 254, 253, 252);
@@ -102,20 +111,20 @@ public final class ReplayTest {
     }
 
     private static void findsAsShortAsOne() {
-        Check.says("On R_FAILS the consumed prefix of M is FOUND (one choice of a full M)");
+        Check.says("On R_FAILS the consumed prefix of M is FOUND", "one choice of a full M");
         ChoiceShrink x = Make.found(4, Make.LIST_OF_INT, Make.NEVER, 0, 1, 2, 3);
         Check.due("all after replay",
             "phase 1 S [0] O [0] V [0] stat [0, 0, 2, 1, 4, 0, 1, 1] cursor [0, 0, 0, 0, 0, 0]", State.of(x));
     }
 
     private static void changesNothingWhenItHolds() {
-        Check.says("On R_HOLDS and R_INVALID nothing changes. (R_HOLDS)");
+        Check.says("On R_HOLDS and R_INVALID nothing changes.", "R_HOLDS");
         changesNothing(ChoiceShrink.R_HOLDS, () -> Make.fed(8, TWO_INTS, Make.ALWAYS, 7, 3));
         changesNothing(ChoiceShrink.R_HOLDS, () -> Make.fed(4, TWO_INTS, ADDS_UP, 7, 4, 9, 9));
     }
 
     private static void changesNothingWhenInvalid() {
-        Check.says("On R_HOLDS and R_INVALID nothing changes. (R_INVALID)");
+        Check.says("On R_HOLDS and R_INVALID nothing changes.", "R_INVALID");
         changesNothing(ChoiceShrink.R_INVALID, () -> Make.fed(8, Make.ints(3, 255), Make.NEVER, 7, 3));
         changesNothing(ChoiceShrink.R_INVALID, () -> Make.fed(8, Make.ints(3, 255), Make.NEVER));
         changesNothing(ChoiceShrink.R_INVALID, () -> Make.fed(4, Make.ints(5, 255), Make.NEVER, 1, 2, 3, 4));

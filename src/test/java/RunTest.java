@@ -23,6 +23,7 @@ public final class RunTest {
         countsCases();
         casesWrap();
         findsTheWholeRecord();
+        findsAnew();
         answersTheFailingCase();
         answersZeroWhenNoneFailed();
         invalidCasesCount();
@@ -32,12 +33,11 @@ public final class RunTest {
         theStateWraps();
         drawsInts();
         drawsLists();
-        replaysAsRecorded();
         Check.end("RunTest");
     }
 
     private static void refusesOutsideIdle() {
-        Check.says("Refused (-1, no change) if phase is not PH_IDLE");
+        Check.says("Random testing. Refused (-1, no change) if phase is not PH_IDLE");
         Moment.found().values().forEach(RunTest::refuses);
         Moment.done().values().forEach(RunTest::refuses);
     }
@@ -82,7 +82,7 @@ public final class RunTest {
     }
 
     private static void clampsTheCountOfFailingCases() {
-        Check.says("count is clamped into 1..16. (a case that would fail just inside and just outside)");
+        Check.says("count is clamped into 1..16.", "a case that would fail just inside and just outside");
         int sixteenth = seedFailingFirstAt(16);
         for (int count : new int[] {16, 17, Make.GREATEST}) {
             Check.due("run(" + count + ") failing at 16", 16, oneInt(sixteenth).run(count));
@@ -179,7 +179,8 @@ public final class RunTest {
     }
 
     private static void findsTheWholeRecord() {
-        Check.says("the record (all draws of the case) is FOUND");
+        Check.says("a RANDOM generation with a fresh empty record; if it is valid and the property FAILS on its value, "
+            + "the record (all draws of the case) is FOUND");
         ChoiceShrink x = Make.tester(60000, 32, Make.ints(8, 255), Make.NEVER);
         Check.due("run(9)", 1, x.run(9));
         List<Integer> want = new ArrayList<>();
@@ -191,8 +192,37 @@ public final class RunTest {
             + advanced(60000, 8) + "] cursor [0, 0, 0, 0, 0, 0]", State.of(x));
     }
 
+    /** Whatever an earlier finding left behind. */
+    private static void findsAnew() {
+        Check.says("Finding a counterexample sequence F (by replay or run): S := F, O := F, V := its value, trials := "
+            + "0, accepted := 0, cursor NOT STARTED, phase := PH_FOUND.");
+        for (int trials = 0; trials <= 23; trials++) {
+            ChoiceShrink x = Moment.sevenThree(trials);
+            x.discard();
+            for (int call = 0; call < 2000 && x.phase() == ChoiceShrink.PH_IDLE; call++) {
+                x.run(16);
+            }
+            isFound("run", x, x.choiceAt(0), 10 - x.choiceAt(0));
+            x.discard();
+            Make.feed(x, 9, 1, 5);
+            Check.due("replay()", ChoiceShrink.R_FAILS, x.replay());
+            isFound("replay", x, 9, 1);
+        }
+    }
+
+    private static void isFound(String by, ChoiceShrink x, int first, int second) {
+        String f = "[" + first + ", " + second + "]";
+        Check.due("S by " + by, f, State.sequence(x).toString());
+        Check.due("O by " + by, f, State.original(x).toString());
+        Check.due("V by " + by, f, State.value(x).toString());
+        Check.due("trials by " + by, 0, x.stat(0));
+        Check.due("accepted by " + by, 0, x.stat(1));
+        Check.due("cursor by " + by, "[0, 0, 0, 0, 0, 0]", State.cursor(x).toString());
+        Check.due("phase by " + by, ChoiceShrink.PH_FOUND, x.phase());
+    }
+
     private static void answersTheFailingCase() {
-        Check.says("the call answers j at once, doing no further cases");
+        Check.says("is FOUND and the call answers j at once, doing no further cases.");
         for (int seed = 0; seed < 300; seed++) {
             int failing = 1;
             while (failing <= 16 && drawn(seed, failing) < 200) {
@@ -253,7 +283,7 @@ public final class RunTest {
     }
 
     private static void carriesTheStateOver() {
-        Check.says("The PRNG state carries over between cases and between calls");
+        Check.says("The PRNG state carries over between cases and between calls; a failed take does not advance it.");
         ChoiceShrink x = Make.tester(8, 8, Make.ints(3, 255), Make.ALWAYS);
         x.run(4);
         Check.due("stat(7)", advanced(8, 12), x.stat(7));
@@ -267,6 +297,12 @@ public final class RunTest {
         x.discard();
         Check.due("run(3) after discard", 1, x.run(3));
         Check.due("choiceAt(0)", drawn(8, 19), x.choiceAt(0));
+        // Each invalid case ends with its fifth take, and the next one draws what that would have drawn.
+        ChoiceShrink invalid = Make.tester(8, 4, Make.ints(5, 255), Make.NEVER);
+        for (int call = 1; call <= 3; call++) {
+            Check.due("run(2) of invalid cases", 0, invalid.run(2));
+            Check.due("stat(7) after " + 2 * call + " invalid cases", advanced(8, 8 * call), invalid.stat(7));
+        }
     }
 
     private static void leavesTheBuffer() {
@@ -287,7 +323,7 @@ public final class RunTest {
     }
 
     private static void aFailedTakeDoesNotDraw() {
-        Check.says("a take when cap choices have already been taken fails and leaves the PRNG as is");
+        Check.says("Random drawing: a take when cap choices have already been taken fails and leaves the PRNG as is.");
         for (int cap = 4; cap <= 7; cap++) {
             ChoiceShrink x = Make.tester(8, cap, Make.ints(8, 255), Make.NEVER);
             Check.due("run(1) with cap " + cap, 0, x.run(1));
@@ -300,7 +336,7 @@ public final class RunTest {
     }
 
     private static void theStateWraps() {
-        Check.says("state := state * 1103515245 + 12345 (32-bit wrapping int)");
+        Check.says("Otherwise state := state * 1103515245 + 12345 (32-bit wrapping int)");
         statesFrom(0, 12345, -740551042, -1492899873);
         statesFrom(1, 1103527590, -1770082073, 662824084);
         statesFrom(2, -2087924461, 1495354192, -1476419255);
@@ -374,19 +410,6 @@ public final class RunTest {
             value.set(0, value.get(0) + 1);
         }
         return draw;
-    }
-
-    private static void replaysAsRecorded() {
-        Check.says("A counterexample is found either by replaying a hand-fed choice sequence or by random cases");
-        ChoiceShrink x = Make.tester(123, 32, LIST_THEN_INT, Make.NEVER);
-        Check.due("run(1)", 1, x.run(1));
-        ChoiceShrink y = Make.tester(1, 32, LIST_THEN_INT, Make.NEVER);
-        for (int i = 0; i < x.seqLength(); i++) {
-            y.pushChoice(x.choiceAt(i));
-        }
-        Check.due("replay()", ChoiceShrink.R_FAILS, y.replay());
-        Check.due("S", State.sequence(x).toString(), State.sequence(y).toString());
-        Check.due("V", State.value(x).toString(), State.value(y).toString());
     }
 
     private static int advanced(int seed, int draws) {

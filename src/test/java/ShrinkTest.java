@@ -27,12 +27,12 @@ public final class ShrinkTest {
     }
 
     private static void refusesInIdle() {
-        Check.says("Refused (-1, no change) if phase is not PH_FOUND. (PH_IDLE)");
+        Check.says("Refused (-1, no change) if phase is not PH_FOUND.", "PH_IDLE");
         Moment.idle().values().forEach(ShrinkTest::refuses);
     }
 
     private static void refusesInDone() {
-        Check.says("Refused (-1, no change) if phase is not PH_FOUND. (PH_DONE)");
+        Check.says("Refused (-1, no change) if phase is not PH_FOUND.", "PH_DONE");
         Moment.done().values().forEach(ShrinkTest::refuses);
     }
 
@@ -52,7 +52,7 @@ public final class ShrinkTest {
     }
 
     private static void clampsTheBudgetWhenUnderWay() {
-        Check.says("budget is clamped into 1..64. (in a call that resumes)");
+        Check.says("budget is clamped into 1..64.", "in a call that resumes");
         for (int before : new int[] {1, 30, 39}) {
             does(before, Make.LEAST, 1);
             does(before, 0, 1);
@@ -106,7 +106,7 @@ public final class ShrinkTest {
     }
 
     private static void goesOnThroughStepsThatAreNoTrials() {
-        Check.says("then keeps going through steps that are not trials up to the next trial (into the next round)");
+        Check.says("then keeps going through steps that are not trials up to the next trial", "into the next round");
         ChoiceShrink x = Make.found(8, Make.LIST_OF_INT, Make.NEVER, 1, 5, 1, 6, 1, 7, 0);
         Check.due("shrink(1)", 1, x.shrink(1));
         Check.due("cursor", "[1, 2, 0, 0, 0, 1]", State.cursor(x).toString());
@@ -134,7 +134,7 @@ public final class ShrinkTest {
     }
 
     private static void endsWithTheLastTrialOfTheBudget() {
-        Check.says("up to the next trial or the end of the procedure (the end, with the budget's last trial)");
+        Check.says("up to the next trial or the end of the procedure", "the end, with the budget's last trial");
         ChoiceShrink oneLess = Moment.sevenThree(ALL - 1);
         Check.due("phase() before the last trial", ChoiceShrink.PH_FOUND, oneLess.phase());
         Check.due("cursor before the last trial", "[3, 1, 1, 6, 7, 0]", State.cursor(oneLess).toString());
@@ -256,7 +256,7 @@ public final class ShrinkTest {
 
     /** It fails only where there are all eight elements. */
     private static void aSequenceOfTheGreatestLength() {
-        Check.says("Continues the SHRINK PROCEDURE. (with as many choices as there can be)");
+        Check.says("Continues the SHRINK PROCEDURE.", "with as many choices as there can be");
         ChoiceShrink x = Make.tester(1, 32, Make.LIST_OF_THREE, Make.lengthIsNot(25));
         String s = "";
         String v = "";
