@@ -5,7 +5,6 @@ import java.lang.reflect.Member;
 import java.lang.reflect.Method;
 import java.lang.reflect.Modifier;
 import java.util.ArrayList;
-import java.util.Collections;
 import java.util.List;
 import java.util.regex.Matcher;
 import java.util.regex.Pattern;
@@ -32,9 +31,14 @@ public final class FaceTest {
         }
         Check.due("lines of the document's face", 42, due.size());
         List<String> got = seen();
-        Collections.sort(due);
-        Collections.sort(got);
-        Check.due("the face", String.join("\n", due), String.join("\n", got));
+        Check.due("what the class lacks", "[]", without(due, got));
+        Check.due("what the class has beside it", "[]", without(got, due));
+    }
+
+    private static String without(List<String> lines, List<String> others) {
+        List<String> left = new ArrayList<>(lines);
+        others.forEach(left::remove);
+        return left.toString();
     }
 
     /** Without the names of parameters, which the compiled class does not tell. */
