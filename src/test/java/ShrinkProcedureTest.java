@@ -31,6 +31,7 @@ public final class ShrinkProcedureTest {
         deletesInFourChoices();
         deletesInFiveChoices();
         deletesAgainAtTheSamePlace();
+        deletesWithoutMakingUpForIt();
         zeroesNoBlockOfZeros();
         zeroesBlocksThatBeginOtherwise();
         zeroesBlocksThatHoldOneInside();
@@ -169,6 +170,18 @@ public final class ShrinkProcedureTest {
         rests(x, "1 1 0 0 0 1", "1 1 1 0 0 1", "2 2 0 0 0 1", "2 1 0 0 0 1", "3 1 0 0 6 1", "3 1 0 4 6 1",
             "4 1 0 0 0 1", "1 2 0 0 0 0");
         isAt(x, "[6, 0]", "[6, 0]", 11, 2);
+    }
+
+    private static void deletesWithoutMakingUpForIt() {
+        Check.says("TRIAL(S with positions i..i+k-1 removed)", "what stood behind S before does not come back");
+        ChoiceShrink x = Make.found(8, LIST_THEN_INT, Make.NEVER, 1, 5, 0, 9);
+        rests(x, "1 2 0 0 0 0", "1 2 0 0 0 1");
+        isAt(x, "[0, 9]", "[0, 9]", 2, 1);
+        // 0 alone lacks the int: the 0 that stood behind 0, 9 at first would give a lesser sequence.
+        rests(x, "1 1 0 0 0 1", "1 1 1 0 0 1", "2 2 0 0 0 1");
+        isAt(x, "[0, 9]", "[0, 9]", 5, 1);
+        rests(x, "1 2 0 0 0 0");
+        isAt(x, "[0, 0]", "[0, 0]", 6, 2);
     }
 
     // Pass 2
